@@ -1,0 +1,453 @@
+/** Promises 19 to 24: run, count, hull, foresee, flaw, digest, and what a tick does to a piece. */
+public final class TickTest {
+    private static final String BARE = "take rib; give rib;";
+
+    public static void main(String[] args) {
+        run();
+        count();
+        wetAndHeatHaveLimits();
+        holdHasLimits();
+        burning();
+        notBurning();
+        stiffnesses();
+        cracks();
+        cracksCoolToo();
+        bendComesBack();
+        fitAndTolerance();
+        lostPieceBeginsAnew();
+        framesStayWhenAPieceIsLost();
+        twoSlipsCutInOrder();
+        hulls();
+        hullsBeyondForty();
+        foresee();
+        foreseeChangesNothing();
+        flaw();
+        digest();
+        Check.end("TickTest");
+    }
+
+    /** A yard with one slip that builds by the plan, and one plank that the first cut uses up. */
+    private static BendYard building(String plan, int wood, int length, int wetness, int tolerance) {
+        BendYard x = new BendYard();
+        Check.same("plan " + plan, 0, Texts.compile(x, 0, plan));
+        x.addSlip();
+        x.addPlank(wood, length, wetness);
+        x.start(0, 0, tolerance);
+        return x;
+    }
+
+    private static void piece(BendYard x, int actions, int wetness, int heat, int cracks) {
+        int tick = x.count(0);
+        Check.same("actions at " + tick, actions, x.slip(0, 2));
+        Check.same("wetness at " + tick, wetness, x.slip(0, 6));
+        Check.same("heat at " + tick, heat, x.slip(0, 7));
+        Check.same("cracks at " + tick, cracks, x.slip(0, 8));
+    }
+
+    private static void run() {
+        BendYard x = new BendYard();
+        Check.refuses(x, "run(0)", Texts.ARGUMENT, () -> x.run(0));
+        Check.refuses(x, "run(-1)", Texts.ARGUMENT, () -> x.run(-1));
+        Check.refuses(x, "run(201)", Texts.ARGUMENT, () -> x.run(201));
+        Check.same("run(200)", 0, x.run(200));
+        Check.same("run(1)", 0, x.run(1));
+        Check.same("tick", 201, x.count(0));
+        Texts.compile(x, 0, BARE);
+        for (int i = 0; i < 4; i++) {
+            x.addSlip();
+            x.addFrame(2);
+            x.start(i, 0, 0);
+        }
+        Check.same("none is finished", 0, x.run(2));
+        Check.same("four are finished in a tick", 4, x.run(1));
+        Check.same("none any more", 0, x.run(1));
+    }
+
+    private static void count() {
+        BendYard x = new BendYard();
+        Check.refuses(x, "count(-1)", Texts.BOUNDS, () -> x.count(-1));
+        Check.refuses(x, "count(9)", Texts.BOUNDS, () -> x.count(9));
+        Texts.compile(x, 0, BARE);
+        Texts.compile(x, 1, "cut oak 20; bend 9 9 9; fit;");
+        x.addPlank(0, 55, 0);
+        x.addPlank(1, 70, 0);
+        x.addKnot(0, 5);
+        for (int i = 0; i < 4; i++) {
+            x.addSlip();
+        }
+        x.addFrame(2);
+        x.start(0, 0, 0);
+        x.start(1, 0, 0);
+        x.start(2, 1, 0);
+        x.run(1);
+        counts(x, 1, 3, 4, 3, 2, 0, 0, 6, 99);
+        x.run(2);
+        counts(x, 3, 3, 4, 2, 1, 1, 0, 6, 99);
+        x.run(1);
+        counts(x, 4, 3, 4, 2, 0, 1, 1, 6, 99);
+        x.run(1);
+        counts(x, 5, 3, 4, 1, 0, 2, 1, 15, 70);
+        x.run(10);
+        counts(x, 15, 3, 4, 1, 0, 2, 2, 15, 70);
+    }
+
+    private static void counts(BendYard x, int... due) {
+        for (int what = 0; what < due.length; what++) {
+            Check.same("count(" + what + ") at " + due[0], due[what], x.count(what));
+        }
+    }
+
+    private static void wetAndHeatHaveLimits() {
+        BendYard x = building("cut fir 20; heat 8; wet 30; bend 0 0 0; fit;", 3, 20, 99, 0);
+        x.run(2);
+        piece(x, 1, 96, 45, 0);
+        x.run(6);
+        piece(x, 1, 78, 195, 0);
+        x.run(1);
+        piece(x, 2, 75, 200, 0);
+        x.run(1);
+        piece(x, 2, 83, 190, 0);
+        x.run(2);
+        piece(x, 2, 99, 170, 0);
+        x.run(1);
+        piece(x, 2, 100, 160, 0);
+        x.run(14);
+        piece(x, 2, 100, 20, 0);
+        x.run(11);
+        piece(x, 2, 100, 20, 0);
+        x.run(1);
+        piece(x, 3, 100, 20, 0);
+    }
+
+    private static void holdHasLimits() {
+        BendYard x = building("take rib; cut fir 20; heat 2; hold 4; bend 0 0 0; fit; give rib;", 3, 20, 15, 0);
+        x.addFrame(2);
+        x.run(5);
+        piece(x, 3, 9, 70, 0);
+        x.run(1);
+        piece(x, 3, 5, 55, 0);
+        x.run(2);
+        piece(x, 3, 0, 25, 0);
+        x.run(1);
+        piece(x, 4, 0, 20, 0);
+        x.run(1);
+        piece(x, 5, 0, 20, 0);
+    }
+
+    private static void burning() {
+        BendYard x = building("cut fir 20; heat 10; bend 0 0 0; fit;", 3, 20, 12, 0);
+        x.run(6);
+        piece(x, 1, 0, 145, 0);
+        Check.same("nothing is lost yet", 0, x.count(6));
+        x.run(1);
+        piece(x, 0, 0, 0, 0);
+        Check.same("there is no piece", 0, x.slip(0, 5));
+        Check.same("a piece is lost", 1, x.count(6));
+        Check.same("by the slip", 1, x.slip(0, 13));
+        BendYard y = building("cut fir 20; heat 6; bend 0 0 0; fit;", 3, 20, 12, 0);
+        y.run(7);
+        Check.same("burnt in the last tick of heat", 1, y.count(6));
+        Check.same("cut again", 0, y.slip(0, 2));
+    }
+
+    private static void notBurning() {
+        BendYard x = building("cut fir 20; heat 3; wet 2; heat 4; bend 0 0 0; fit;", 3, 20, 0, 0);
+        x.run(9);
+        piece(x, 3, 7, 150, 0);
+        x.run(1);
+        piece(x, 0, 0, 0, 0);
+        BendYard y = building("cut fir 20; heat 7; bend 0 0 0; fit;", 3, 20, 28, 0);
+        y.run(7);
+        piece(y, 1, 10, 170, 0);
+        y.run(1);
+        piece(y, 0, 0, 0, 0);
+    }
+
+    private static void stiffnesses() {
+        int[] steps = {2, 3, 4, 5};
+        String[] woods = {"oak", "elm", "larch", "fir"};
+        for (int wood = 0; wood < 4; wood++) {
+            BendYard x = building("cut " + woods[wood] + " 20; bend 40 0 3; fit;", wood, 20, 80, 0);
+            x.run(2);
+            Check.same("step of " + woods[wood], steps[wood], x.bend(0, 0, false));
+            Check.same("no step", 0, x.bend(0, 1, false));
+            Check.same("last step", Math.min(3, steps[wood]), x.bend(0, 2, false));
+            piece(x, 1, 79, 20, 0);
+        }
+    }
+
+    private static void cracks() {
+        BendYard x = building("cut oak 20; bend 1 0 0; fit;", 0, 20, 2, 0);
+        x.run(2);
+        piece(x, 1, 1, 20, 1);
+        x.run(1);
+        piece(x, 1, 0, 20, 2);
+        Check.same("target of a piece with cracks", 1, x.bend(0, 0, true));
+        x.run(1);
+        piece(x, 0, 0, 0, 0);
+        Check.same("broken", 1, x.count(6));
+        Check.same("no target without a piece", 0, x.bend(0, 0, true));
+        BendYard y = building("cut oak 20; bend 0 0 0; bend 0 0 0; bend 0 0 0; fit;", 0, 20, 2, 0);
+        y.run(4);
+        piece(y, 4, 0, 20, 0);
+    }
+
+    private static void cracksCoolToo() {
+        BendYard x = building("cut oak 20; heat 1; bend 5 0 0; fit;", 0, 20, 3, 0);
+        x.run(3);
+        piece(x, 2, 0, 35, 0);
+        Check.same("bent by 1", 1, x.bend(0, 0, false));
+        x.run(1);
+        piece(x, 2, 0, 25, 1);
+        x.run(1);
+        piece(x, 2, 0, 20, 2);
+        Check.same("not bent any more", 1, x.bend(0, 0, false));
+        x.run(1);
+        piece(x, 0, 0, 0, 0);
+    }
+
+    private static void bendComesBack() {
+        BendYard x = building("cut fir 20; bend 5 5 0; bend 0 4 1; fit;", 3, 20, 100, 0);
+        x.run(3);
+        Check.same("bend 0", 0, x.bend(0, 0, false));
+        Check.same("bend 1", 4, x.bend(0, 1, false));
+        Check.same("bend 2", 1, x.bend(0, 2, false));
+        piece(x, 3, 98, 20, 0);
+    }
+
+    private static void fitAndTolerance() {
+        // Behind the bend the wetness is 99: each bend of 6 springs back by 2.
+        BendYard x = building("cut fir 20; bend 6 6 6; fit;", 3, 20, 100, 6);
+        Check.same("flaw as the tolerance", 1, x.run(3));
+        Check.same("flaw of the hull", 6, x.slip(0, 4));
+        Check.same("parts of the hull", 1, x.slip(0, 3));
+        Check.same("nothing is lost", 0, x.count(6));
+        BendYard y = building("cut fir 20; bend 6 6 6; fit;", 3, 20, 100, 5);
+        Check.same("flaw above the tolerance", 0, y.run(3));
+        Check.same("thrown away", 1, y.count(6));
+        Check.same("cut again", 0, y.slip(0, 2));
+        Check.same("no flaw of the hull", 0, y.slip(0, 4));
+        Check.same("no parts of the hull", 0, y.slip(0, 3));
+    }
+
+    private static void lostPieceBeginsAnew() {
+        BendYard x = building("take rib; cut fir 20; bend 0 0 0; fit; cut fir 20; wet 3; bend 9 0 0; fit; give rib;", 3, 60, 100, 3);
+        x.addFrame(2);
+        x.run(5);
+        Check.same("first part", 1, x.slip(0, 3));
+        x.run(7);
+        Check.same("second part is lost", 1, x.slip(0, 13));
+        Check.same("it goes on with the second cut", 4, x.slip(0, 2));
+        Check.same("the first part stays", 1, x.slip(0, 3));
+        Check.same("it holds its frame", 4, x.slip(0, 12));
+        x.run(1);
+        Check.same("cut again in the next tick", 1, x.slip(0, 5));
+        x.run(2);
+        Check.same("two ticks of wet", 5, x.slip(0, 2));
+        x.run(1);
+        Check.same("three ticks of wet", 6, x.slip(0, 2));
+        BendYard y = building("cut fir 10; heat 6; bend 0 0 0; fit;", 3, 10, 12, 0);
+        y.addPlank(3, 20, 40);
+        y.run(7);
+        Check.same("burnt in the sixth tick of heat", 1, y.slip(0, 13));
+        y.run(6);
+        Check.same("five ticks of heat anew", 1, y.slip(0, 2));
+        y.run(1);
+        Check.same("six ticks of heat anew", 2, y.slip(0, 2));
+    }
+
+    private static void framesStayWhenAPieceIsLost() {
+        BendYard x = building("take bow; cut fir 10; give bow; take rib; bend 9 0 0; fit; give rib;", 3, 20, 100, 3);
+        x.addFrame(0);
+        x.addFrame(2);
+        x.run(7);
+        Check.same("bent to 6", 6, x.bend(0, 0, false));
+        x.run(2);
+        Check.same("lost", 1, x.slip(0, 13));
+        Check.same("only the rib is held", 4, x.slip(0, 12));
+        x.run(2);
+        Check.same("give of a bow that it does not hold", 3, x.slip(0, 2));
+        Check.same("one bow is free", 1, x.frames(0, 1));
+        x.run(1);
+        Check.same("take of a rib that it holds", 4, x.slip(0, 2));
+        Check.same("it does not wait", -1, x.slip(0, 9));
+        Check.same("no rib is free", 0, x.frames(2, 1));
+    }
+
+    private static void twoSlipsCutInOrder() {
+        BendYard x = new BendYard();
+        Texts.compile(x, 0, "cut oak 30; bend 0 0 0; fit;");
+        x.addSlip();
+        x.addSlip();
+        x.addPlank(0, 70, 90);
+        x.addPlank(0, 40, 10);
+        x.start(1, 0, 0);
+        x.start(0, 0, 0);
+        x.run(1);
+        Check.same("slip 0 has the shorter plank", 10, x.slip(0, 6));
+        Check.same("slip 1 has the other one", 90, x.slip(1, 6));
+        Check.same("what is left of the shorter one", 10, x.plank(2, 1));
+        Check.same("what is left of the other one", 40, x.plank(3, 1));
+    }
+
+    private static void hulls() {
+        BendYard x = new BendYard();
+        Texts.compile(x, 4, "cut fir 20; bend 6 6 6; fit; cut fir 20; bend 6 6 6; fit;");
+        Texts.compile(x, 5, BARE);
+        x.addSlip();
+        x.addSlip();
+        x.addSlip();
+        x.addPlank(3, 40, 100);
+        x.addFrame(2);
+        x.start(2, 4, 30);
+        x.run(2);
+        x.start(1, 5, 0);
+        x.start(0, 5, 0);
+        x.run(3);
+        hull(x, 0, 0, 5, 0, 0, 2, 5);
+        Check.refuses(x, "hull(1, 0)", Texts.BOUNDS, () -> x.hull(1, 0));
+        Check.refuses(x, "hull(-1, 0)", Texts.BOUNDS, () -> x.hull(-1, 0));
+        Check.refuses(x, "hull(0, -1)", Texts.BOUNDS, () -> x.hull(0, -1));
+        Check.refuses(x, "hull(0, 6)", Texts.BOUNDS, () -> x.hull(0, 6));
+        x.run(2);
+        hull(x, 1, 2, 4, 2, 12, 0, 6);
+        hull(x, 2, 1, 5, 0, 0, 2, 7);
+    }
+
+    private static void hull(BendYard x, int index, int... due) {
+        for (int what = 0; what < due.length; what++) {
+            Check.same("hull(" + index + ", " + what + ")", due[what], x.hull(index, what));
+        }
+    }
+
+    private static void hullsBeyondForty() {
+        BendYard x = new BendYard();
+        Texts.compile(x, 0, BARE);
+        for (int i = 0; i < 6; i++) {
+            x.addSlip();
+        }
+        for (int i = 0; i < 4; i++) {
+            x.addFrame(2);
+        }
+        for (int round = 0; round < 7; round++) {
+            for (int i = 0; i < 6; i++) {
+                x.start(i, 0, 0);
+            }
+            Check.same("six hulls", 6, x.run(5));
+        }
+        Check.same("hulls that were finished", 42, x.count(5));
+        Check.same("slip of the last that is kept", 3, x.hull(39, 0));
+        Check.same("tick of the last that is kept", 33, x.hull(39, 5));
+        Check.refuses(x, "hull(40, 0)", Texts.BOUNDS, () -> x.hull(40, 0));
+        x.start(5, 0, 0);
+        Check.same("foresee beyond forty", 33 + 5, x.foresee(9, 3));
+        Check.same("one more", 1, x.run(3));
+        Check.same("slip of the first", 0, x.hull(0, 0));
+    }
+
+    private static void foresee() {
+        BendYard x = building("cut fir 20; bend 6 6 6; fit;", 3, 40, 100, 5);
+        x.addSlip();
+        x.addFrame(2);
+        Texts.compile(x, 1, "take rib; take bow; give rib; give bow;");
+        Texts.compile(x, 2, BARE);
+        x.start(1, 2, 0);
+        Check.same("hulls in 2", 0, x.foresee(2, 0));
+        Check.same("hulls in 3", 1, x.foresee(3, 0));
+        Check.same("hulls in 200", 1, x.foresee(200, 0));
+        Check.same("lost in 2", 0, x.foresee(2, 1));
+        Check.same("lost in 3", 1, x.foresee(3, 1));
+        Check.same("lost in 6", 2, x.foresee(6, 1));
+        Check.same("lost in 200", 2, x.foresee(200, 1));
+        Check.same("no first in 2", -1, x.foresee(2, 3));
+        Check.same("first in 3", 3, x.foresee(3, 3));
+        Check.same("first in 200", 3, x.foresee(200, 3));
+        x.run(3);
+        Check.same("hulls from 3 on", 0, x.foresee(100, 0));
+        Check.same("lost from 3 on", 1, x.foresee(100, 1));
+        Check.same("no first from 3 on", -1, x.foresee(100, 3));
+        x.start(1, 1, 0);
+        Check.same("stuck in 2", 0, x.foresee(2, 2));
+        Check.same("stuck in 3", 2, x.foresee(3, 2));
+        Check.same("stuck now", 0, x.stuck());
+        x.addFrame(0);
+        Check.same("stuck with a bow", 0, x.foresee(200, 2));
+        Check.same("first with a bow", 9, x.foresee(200, 3));
+        Check.refuses(x, "foresee(0, 0)", Texts.ARGUMENT, () -> x.foresee(0, 0));
+        Check.refuses(x, "foresee(201, 0)", Texts.ARGUMENT, () -> x.foresee(201, 0));
+        Check.refuses(x, "foresee(-1, 4)", Texts.ARGUMENT, () -> x.foresee(-1, 4));
+        Check.refuses(x, "foresee(1, 4)", Texts.BOUNDS, () -> x.foresee(1, 4));
+        Check.refuses(x, "foresee(1, -1)", Texts.BOUNDS, () -> x.foresee(1, -1));
+    }
+
+    private static void foreseeChangesNothing() {
+        BendYard x = building("times 3 { cut fir 20; wet 2; heat 3; bend 6 9 6; fit; }", 3, 150, 50, 50);
+        for (int i = 0; i < 30; i++) {
+            long before = x.digest();
+            for (int what = 0; what < 4; what++) {
+                x.foresee(1 + i * 6, what);
+            }
+            Check.same("digest behind foresee", before, x.digest());
+            x.run(1);
+        }
+        Check.same("hulls at the end", 1, x.count(5));
+    }
+
+    private static void flaw() {
+        BendYard x = building("cut fir 20; bend 6 6 6; fit;", 3, 60, 100, 60);
+        Check.sameDouble("flaw of none", 0.0, x.flaw());
+        x.run(3);
+        Check.sameDouble("flaw of one hull", 6.0, x.flaw());
+        Texts.compile(x, 1, "cut fir 20; bend 2 0 0; fit; cut fir 20; bend 0 0 0; fit;");
+        x.start(0, 1, 60);
+        Check.sameDouble("a hull that is not finished", 6.0, x.flaw());
+        x.run(6);
+        Check.sameDouble("flaw of two hulls", 6 / 3.0, x.flaw());
+        Texts.compile(x, 2, "cut fir 20; bend 3 0 0; fit;");
+        x.addPlank(3, 20, 100);
+        x.start(0, 2, 60);
+        x.run(3);
+        Check.sameDouble("flaw of three hulls", 7 / 4.0, x.flaw());
+        BendYard y = new BendYard();
+        Texts.compile(y, 0, BARE);
+        y.addSlip();
+        y.addFrame(2);
+        y.start(0, 0, 0);
+        y.run(3);
+        Check.same("a hull without parts", 1, y.count(5));
+        Check.sameDouble("flaw of a hull without parts", 0.0, y.flaw());
+    }
+
+    private static void digest() {
+        BendYard x = new BendYard();
+        Check.same("digest of a new yard", sum(x), x.digest());
+        Texts.compile(x, 1, "take rib; cut elm 20; heat 2; bend 5 6 7; fit; give rib;");
+        x.addPlank(1, 100, 40);
+        x.addKnot(0, 30);
+        x.addFrame(2);
+        x.addSlip();
+        x.addSlip();
+        x.start(0, 1, 50);
+        x.start(1, 1, 50);
+        for (int i = 0; i < 20; i++) {
+            x.run(1);
+            Check.same("digest at " + x.count(0), sum(x), x.digest());
+        }
+        Check.same("hulls at the end", 2, x.count(5));
+    }
+
+    private static long sum(BendYard x) {
+        long d = 467;
+        for (int i = 0; i < 9; i++) d = d * 31 + x.count(i);
+        for (int i = 0; i < 24; i++) d = d * 31 + x.plan(i / 4, i % 4);
+        for (int i = 0; i < x.count(1) * 5; i++) d = d * 31 + x.plank(i / 5, i % 5);
+        for (int i = 0; i < 15; i++) d = d * 31 + x.frames(i / 3, i % 3);
+        for (int slip = 0; slip < x.count(2); slip++) {
+            for (int i = 0; i < 15; i++) d = d * 31 + x.slip(slip, i);
+            for (int i = 0; i < 3; i++) d = d * 31 + x.bend(slip, i, false);
+            for (int i = 0; i < 3; i++) d = d * 31 + x.bend(slip, i, true);
+        }
+        for (int i = 0; i < Math.min(40, x.count(5)) * 6; i++) d = d * 31 + x.hull(i / 6, i % 6);
+        return d;
+    }
+}
