@@ -15,6 +15,7 @@ public final class PlanTest {
         loops();
         compileEmptiesTheTape();
         compileKeepsOrReplaces();
+        compileBeginsAnew();
         wrongPlans();
         planFacts();
         Check.end("PlanTest");
@@ -102,6 +103,7 @@ public final class PlanTest {
         error("aaaaaaaaa", 1, 0);
         error("tak bow;", 1, 0);
         error("takes bow;", 1, 0);
+        error("takez bow;", 1, 0);
         error("take bo;", 1, 5);
         error("take bows;", 1, 5);
         error("take oak;", 1, 5);
@@ -120,6 +122,9 @@ public final class PlanTest {
         error("bend 1 2;", 1, 8);
         error("bend 1 23;", 1, 9);
         error("bend 1 2 3 4;", 1, 11);
+        error("bend 1 aaaaaaaaa 3;", 1, 7);
+        error("bend 1 aaaaaaaa 3;", 1, 7);
+        error("bend 1 2345 3;", 1, 7);
         error("wet;", 1, 3);
         error("wet 1 2;", 1, 6);
         error("heat fit;", 1, 5);
@@ -265,6 +270,21 @@ public final class PlanTest {
         Check.same("plan 5", 0, Texts.compile(x, 5, "take rib; give rib; take rib; give rib;"));
         Check.same("actions of plan 0", 2, x.plan(0, 0));
         Check.same("actions of plan 5", 4, x.plan(5, 0));
+    }
+
+    /** Nothing that an earlier text left open counts for the next one. */
+    private static void compileBeginsAnew() {
+        BendYard x = new BendYard();
+        Check.same("loops that are open", 3, Texts.compile(x, 0, "times 2{times 2{times 2{give rib;}}}"));
+        Check.same("loops anew", 0, Texts.compile(x, 0, "times 2{times 2{times 2{take rib; give rib;}}}"));
+        Check.same("piece that is left", 3, Texts.compile(x, 0, "cut oak 20; bend 1 1 1;"));
+        Check.same("no piece anew", 0, Texts.compile(x, 0, "cut oak 20; bend 1 1 1; fit;"));
+        Check.same("bent piece that is left", 3, Texts.compile(x, 0, "cut oak 20; bend 1 1 1;"));
+        Check.same("piece that is not bent", 3, Texts.compile(x, 0, "cut oak 20; fit;"));
+        Check.same("frame that is left", 3, Texts.compile(x, 0, "take bow;"));
+        Check.same("no frame anew", 0, Texts.compile(x, 0, "take bow; give bow;"));
+        Check.same("no text", 1, Texts.compile(x, 0, ""));
+        Check.same("errorAt of no text", 0, x.errorAt());
     }
 
     private static void wrongPlans() {

@@ -324,6 +324,14 @@ public final class SlipTest {
         Check.same("a frame is free", 0, x.stuck());
         x.run(1);
         Check.same("a frame will be given", 0, x.stuck());
+        for (int sort = 0; sort < 5; sort++) {
+            BendYard y = yard(1, "take " + YardModel.FRAMES.get(sort) + "; give " + YardModel.FRAMES.get(sort) + ";");
+            y.start(0, 0, 0);
+            y.run(1);
+            Check.same("stuck without a frame of sort " + sort, 1, y.stuck());
+            y.addFrame(sort);
+            Check.same("stuck with a frame of sort " + sort, 0, y.stuck());
+        }
     }
 
     private static void stuckThroughOthers() {

@@ -21,6 +21,9 @@ public final class TickTest {
         hullsBeyondForty();
         foresee();
         foreseeChangesNothing();
+        foreseeIsWhatComes();
+        foreseeWithCracks();
+        foreseeForgetsWhatItForesaw();
         flaw();
         digest();
         Check.end("TickTest");
@@ -164,15 +167,20 @@ public final class TickTest {
     }
 
     private static void stiffnesses() {
-        int[] steps = {2, 3, 4, 5};
-        String[] woods = {"oak", "elm", "larch", "fir"};
+        stepsOfWoods(80, 2, 3, 4, 5);
+        stepsOfWoods(100, 3, 4, 4, 6);
+        stepsOfWoods(20, 1, 1, 1, 2);
+    }
+
+    private static void stepsOfWoods(int wetness, int... steps) {
         for (int wood = 0; wood < 4; wood++) {
-            BendYard x = building("cut " + woods[wood] + " 20; bend 40 0 3; fit;", wood, 20, 80, 0);
+            String name = YardModel.WOODS.get(wood);
+            BendYard x = building("cut " + name + " 20; bend 40 0 3; fit;", wood, 20, wetness, 0);
             x.run(2);
-            Check.same("step of " + woods[wood], steps[wood], x.bend(0, 0, false));
+            Check.same("step of " + name, steps[wood], x.bend(0, 0, false));
             Check.same("no step", 0, x.bend(0, 1, false));
             Check.same("last step", Math.min(3, steps[wood]), x.bend(0, 2, false));
-            piece(x, 1, 79, 20, 0);
+            piece(x, 1, wetness - 1, 20, 0);
         }
     }
 
@@ -228,6 +236,12 @@ public final class TickTest {
         Check.same("cut again", 0, y.slip(0, 2));
         Check.same("no flaw of the hull", 0, y.slip(0, 4));
         Check.same("no parts of the hull", 0, y.slip(0, 3));
+        // 200 * (80 + 20) / 400 is 50: bent in one tick, with a wetness of 80 at the end.
+        BendYard z = building("cut fir 20; heat 8; wet 1; bend 40 5 3; fit;", 3, 20, 97, 60);
+        z.run(11);
+        piece(z, 4, 80, 180, 0);
+        z.run(1);
+        Check.same("40 * 80 / 200, 5 * 80 / 200 and 3 * 80 / 200", 16 + 2 + 1, z.slip(0, 4));
     }
 
     private static void lostPieceBeginsAnew() {
@@ -254,6 +268,11 @@ public final class TickTest {
         Check.same("five ticks of heat anew", 1, y.slip(0, 2));
         y.run(1);
         Check.same("six ticks of heat anew", 2, y.slip(0, 2));
+        Check.same("a hull in spite of a loss", 1, y.run(2));
+        Check.same("lost for the hull that is told still", 1, y.slip(0, 13));
+        y.start(0, 0, 0);
+        Check.same("lost for the next hull", 0, y.slip(0, 13));
+        Check.same("lost in all", 1, y.count(6));
     }
 
     private static void framesStayWhenAPieceIsLost() {
@@ -339,6 +358,7 @@ public final class TickTest {
         Check.same("slip of the last that is kept", 3, x.hull(39, 0));
         Check.same("tick of the last that is kept", 33, x.hull(39, 5));
         Check.refuses(x, "hull(40, 0)", Texts.BOUNDS, () -> x.hull(40, 0));
+        Check.sameDouble("flaw of forty hulls without parts", 0.0, x.flaw());
         x.start(5, 0, 0);
         Check.same("foresee beyond forty", 33 + 5, x.foresee(9, 3));
         Check.same("one more", 1, x.run(3));
@@ -391,6 +411,78 @@ public final class TickTest {
             x.run(1);
         }
         Check.same("hulls at the end", 1, x.count(5));
+    }
+
+    /** What is foreseen at each tick of a busy yard is what comes in a second one that is made by the same calls. */
+    private static void foreseeIsWhatComes() {
+        for (int ticks : new int[] {1, 7, 23, 90}) {
+            BendYard x = busyYard();
+            for (int past = 1; past < 60; past++) {
+                x.run(1);
+                BendYard y = busyYard();
+                y.run(past);
+                int lost = y.count(6);
+                int first = -1;
+                int hulls = 0;
+                for (int i = 0; i < ticks; i++) {
+                    hulls += y.run(1);
+                    first = first < 0 && hulls > 0 ? y.count(0) : first;
+                }
+                String when = " of " + ticks + " ticks from " + past;
+                Check.same("hulls" + when, hulls, x.foresee(ticks, 0));
+                Check.same("lost" + when, y.count(6) - lost, x.foresee(ticks, 1));
+                Check.same("stuck" + when, y.stuck(), x.foresee(ticks, 2));
+                Check.same("first" + when, first, x.foresee(ticks, 3));
+            }
+        }
+    }
+
+    private static void foreseeWithCracks() {
+        BendYard x = building("cut oak 20; bend 1 0 0; fit;", 0, 20, 2, 0);
+        for (int past = 0; past < 4; past++) {
+            Check.same("lost in 3 from " + past, past == 0 ? 0 : 1, x.foresee(3, 1));
+            Check.same("lost in " + (3 - past) + " from " + past, 0, past == 3 ? 0 : x.foresee(3 - past, 1));
+            Check.same("lost in " + (4 - past) + " from " + past, 1, x.foresee(4 - past, 1));
+            x.run(1);
+        }
+        Check.same("nothing more", 0, x.foresee(200, 1));
+    }
+
+    /** The first foreseeing leaves an oak plank with knots where the second one has an elm plank without any. */
+    private static void foreseeForgetsWhatItForesaw() {
+        BendYard x = new BendYard();
+        Texts.compile(x, 0, "cut elm 30; bend 0 0 0; fit; cut elm 60; bend 0 0 0; fit;");
+        Texts.compile(x, 1, "cut oak 30; bend 0 0 0; fit;");
+        x.addPlank(0, 100, 0);
+        x.addKnot(0, 45);
+        x.addKnot(0, 75);
+        x.addPlank(1, 100, 0);
+        x.addSlip();
+        x.addSlip();
+        x.start(1, 1, 0);
+        Check.same("hull of oak", 1, x.foresee(9, 0));
+        x.start(0, 0, 0);
+        Check.same("hulls of oak and elm", 2, x.foresee(9, 0));
+        Check.same("hulls that come", 2, x.run(9));
+    }
+
+    private static BendYard busyYard() {
+        BendYard x = new BendYard();
+        Texts.compile(x, 0, "take rib; times 2 { cut fir 20; wet 2; heat 3; bend 9 20 3; bend 3 3 3; hold 3; fit; } give rib;");
+        Texts.compile(x, 1, "cut oak 25; heat 3; take bow; bend 4 1 0; take rib; hold 2; fit; give rib; give bow;");
+        Texts.compile(x, 2, "take rib; take bow; cut larch 15; heat 8; bend 9 9 9; fit; give bow; give rib;");
+        for (int i = 0; i < 12; i++) {
+            x.addPlank(i % 4, 40 + 9 * i, 8 * i);
+            x.addKnot(i, 22);
+            x.addKnot(i, 3 + i);
+        }
+        x.addFrame(0);
+        x.addFrame(2);
+        for (int i = 0; i < 5; i++) {
+            x.addSlip();
+            x.start(i, i % 3, 5 + 4 * i);
+        }
+        return x;
     }
 
     private static void flaw() {

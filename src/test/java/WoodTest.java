@@ -8,6 +8,7 @@ public final class WoodTest {
         clearPlaces();
         find();
         cutInTheMiddle();
+        cutAheadOfKnots();
         cutWithWaste();
         cutBesideTheLimit();
         cutWithoutRoomForPlanks();
@@ -143,6 +144,27 @@ public final class WoodTest {
         Check.refuses(x, "knot moved along", Texts.STATE, () -> x.addKnot(1, 1));
         Check.refuses(x, "knot at the end", Texts.STATE, () -> x.addKnot(1, 40));
         Check.refuses(x, "place behind the cut", Texts.ARGUMENT, () -> x.addKnot(0, 29));
+    }
+
+    private static void cutAheadOfKnots() {
+        BendYard x = cutter(30);
+        x.addKnot(0, 30);
+        x.addKnot(0, 80);
+        x.start(0, 0, 0);
+        x.run(1);
+        facts(x, 0, 0, 0, 40, 0, 0);
+        facts(x, 1, 0, 70, 40, 2, 49);
+        Check.refuses(x, "knot directly behind the cut", Texts.STATE, () -> x.addKnot(1, 0));
+        Check.refuses(x, "knot behind it", Texts.STATE, () -> x.addKnot(1, 50));
+        Check.same("knot of the new plank", 3, x.addKnot(1, 69));
+        BendYard y = cutter(20);
+        for (int i = 0; i < 8; i++) {
+            y.addKnot(0, i < 4 ? 19 - 5 * i : 40 + 10 * (i - 4));
+        }
+        y.start(0, 0, 0);
+        y.run(1);
+        facts(y, 0, 0, 20, 40, 4, 4);
+        facts(y, 1, 0, 60, 40, 4, 29);
     }
 
     private static void cutWithWaste() {
