@@ -6,7 +6,8 @@ import java.util.function.Function;
 /** Random calls, the same ones on the class and on the model; each answer and each exception has to be the same. */
 public final class ModelTest {
     private static final int RUNS = 400;
-    private static final int CALLS = 500;
+    /** With the last plan that is told it comes to 512 at most. */
+    private static final int CALLS = 480;
 
     private final Random random;
     private final int seed;

@@ -87,157 +87,157 @@ public final class PlanTest {
     }
 
     private static void errorsOfForm() {
-        error("", 1, 0);
-        error(" \n ", 1, 3);
-        error("take", 1, 4);
-        error("take ", 1, 5);
-        error("take bow", 1, 8);
-        error("takebow;", 1, 0);
-        error("\ttake bow;", 1, 0);
-        error("take bow;\rgive bow;", 1, 9);
-        error("take bow; give bow; \u00ff", 1, 20);
-        error("take bow; give bow; Take", 1, 20);
-        error("take bow; give bow; taketakes", 1, 20);
-        error("take bow; give bow; 5", 1, 20);
-        error("take bow; give bow; oak", 1, 20);
-        error("aaaaaaaaa", 1, 0);
-        error("tak bow;", 1, 0);
-        error("takes bow;", 1, 0);
-        error("takez bow;", 1, 0);
-        error("take bo;", 1, 5);
-        error("take bows;", 1, 5);
-        error("take oak;", 1, 5);
-        error("take take;", 1, 5);
-        error("take 1;", 1, 5);
-        error("cut rib 20;", 1, 4);
-        error("cut 20;", 1, 4);
-        error("cut oak;", 1, 7);
-        error("cut oak 1000;", 1, 8);
-        error("cut oak 0020;", 1, 8);
-        error("cut oak 20 20;", 1, 11);
-        error("cut oak 20", 1, 10);
-        error("fit", 1, 3);
-        error("fit fit;", 1, 4);
-        error("fit 1;", 1, 4);
-        error("bend 1 2;", 1, 8);
-        error("bend 1 23;", 1, 9);
-        error("bend 1 2 3 4;", 1, 11);
-        error("bend 1 aaaaaaaaa 3;", 1, 7);
-        error("bend 1 aaaaaaaa 3;", 1, 7);
-        error("bend 1 2345 3;", 1, 7);
-        error("wet;", 1, 3);
-        error("wet 1 2;", 1, 6);
-        error("heat fit;", 1, 5);
-        error("hold ;", 1, 5);
-        error("times 2 { }", 1, 10);
-        error("times 2 { take rib; ", 1, 20);
-        error("times { take rib; }", 1, 6);
-        error("times 2 take rib;", 1, 8);
-        error("times 2; { fit; }", 1, 7);
-        error("} ", 1, 0);
-        error("{ fit; }", 1, 0);
-        error(";", 1, 0);
-        error("take rib; }", 1, 10);
-        error("take rib;;", 1, 9);
-        error("times 2 { take rib; give rib; };", 1, 31);
-        error("times 2 { take rib; give rib; } }", 1, 32);
-        error("times 2 { times 2 { fit; } fit;", 1, 31);
-        error("give bow; x", 1, 10);
-        error("cut oak 9; x", 1, 11);
-        error("times1{times1{times1{times1{times1{fit;}}}}", 1, 43);
+        Texts.errorIs("", 1, 0);
+        Texts.errorIs(" \n ", 1, 3);
+        Texts.errorIs("take", 1, 4);
+        Texts.errorIs("take ", 1, 5);
+        Texts.errorIs("take bow", 1, 8);
+        Texts.errorIs("takebow;", 1, 0);
+        Texts.errorIs("\ttake bow;", 1, 0);
+        Texts.errorIs("take bow;\rgive bow;", 1, 9);
+        Texts.errorIs("take bow; give bow; \u00ff", 1, 20);
+        Texts.errorIs("take bow; give bow; Take", 1, 20);
+        Texts.errorIs("take bow; give bow; taketakes", 1, 20);
+        Texts.errorIs("take bow; give bow; 5", 1, 20);
+        Texts.errorIs("take bow; give bow; oak", 1, 20);
+        Texts.errorIs("aaaaaaaaa", 1, 0);
+        Texts.errorIs("tak bow;", 1, 0);
+        Texts.errorIs("takes bow;", 1, 0);
+        Texts.errorIs("takez bow;", 1, 0);
+        Texts.errorIs("take bo;", 1, 5);
+        Texts.errorIs("take bows;", 1, 5);
+        Texts.errorIs("take oak;", 1, 5);
+        Texts.errorIs("take take;", 1, 5);
+        Texts.errorIs("take 1;", 1, 5);
+        Texts.errorIs("cut rib 20;", 1, 4);
+        Texts.errorIs("cut 20;", 1, 4);
+        Texts.errorIs("cut oak;", 1, 7);
+        Texts.errorIs("cut oak 1000;", 1, 8);
+        Texts.errorIs("cut oak 0020;", 1, 8);
+        Texts.errorIs("cut oak 20 20;", 1, 11);
+        Texts.errorIs("cut oak 20", 1, 10);
+        Texts.errorIs("fit", 1, 3);
+        Texts.errorIs("fit fit;", 1, 4);
+        Texts.errorIs("fit 1;", 1, 4);
+        Texts.errorIs("bend 1 2;", 1, 8);
+        Texts.errorIs("bend 1 23;", 1, 9);
+        Texts.errorIs("bend 1 2 3 4;", 1, 11);
+        Texts.errorIs("bend 1 aaaaaaaaa 3;", 1, 7);
+        Texts.errorIs("bend 1 aaaaaaaa 3;", 1, 7);
+        Texts.errorIs("bend 1 2345 3;", 1, 7);
+        Texts.errorIs("wet;", 1, 3);
+        Texts.errorIs("wet 1 2;", 1, 6);
+        Texts.errorIs("heat fit;", 1, 5);
+        Texts.errorIs("hold ;", 1, 5);
+        Texts.errorIs("times 2 { }", 1, 10);
+        Texts.errorIs("times 2 { take rib; ", 1, 20);
+        Texts.errorIs("times { take rib; }", 1, 6);
+        Texts.errorIs("times 2 take rib;", 1, 8);
+        Texts.errorIs("times 2; { fit; }", 1, 7);
+        Texts.errorIs("} ", 1, 0);
+        Texts.errorIs("{ fit; }", 1, 0);
+        Texts.errorIs(";", 1, 0);
+        Texts.errorIs("take rib; }", 1, 10);
+        Texts.errorIs("take rib;;", 1, 9);
+        Texts.errorIs("times 2 { take rib; give rib; };", 1, 31);
+        Texts.errorIs("times 2 { take rib; give rib; } }", 1, 32);
+        Texts.errorIs("times 2 { times 2 { fit; } fit;", 1, 31);
+        Texts.errorIs("give bow; x", 1, 10);
+        Texts.errorIs("cut oak 9; x", 1, 11);
+        Texts.errorIs("times1{times1{times1{times1{times1{fit;}}}}", 1, 43);
     }
 
     private static void errorsOfMeaning() {
-        error("take bow;give bow;", 0, -1);
-        error(" \n\ntake\nbow ; give  bow;\n", 0, -1);
-        error("take bow; ", 3, 10);
-        error("take bow; give stern;", 3, 10);
-        error("take bow; take bow;", 3, 10);
-        error("take bow; give bow; give bow;", 3, 20);
-        error("take bow; give bow; take bow; give bow;", 0, -1);
-        error("take floor; take side; give floor; give side;", 0, -1);
-        error("take floor; take side; give floor; give rib;", 3, 35);
-        error("cut oak20;", 3, 10);
-        error("cut oak 020;", 3, 12);
-        error("cut oak 20; cut oak 20;", 3, 12);
-        error("wet 1;", 3, 0);
-        error("heat 1;", 3, 0);
-        error("bend 1 1 1;", 3, 0);
-        error("hold 1;", 3, 0);
-        error("take rib; hold 1; give rib;", 3, 10);
-        error("fit;", 3, 0);
-        error("cut oak 20; fit;", 3, 12);
-        error("cut oak 20; bend 0 0 0; fit; fit;", 3, 29);
-        error("cut oak 20; bend 0 0 0; fit; wet 1;", 3, 29);
-        error("cut oak 20; bend 0 0 0; fit;", 0, -1);
-        error("cut oak 20; bend 0 0 0; fit; cut fir 20; fit;", 3, 41);
-        error("cut oak 20; hold 1; bend 0 0 0; fit;", 3, 12);
-        error("take rib; cut oak 20; hold 1; bend 0 0 0; fit; give rib;", 0, -1);
-        error("take rib; cut oak 20; give rib; hold 1; bend 0 0 0; fit;", 3, 32);
-        error("take rib; take bow; cut oak 20; give rib; hold 1; bend 0 0 0; fit; give bow;", 0, -1);
-        error("take rib; cut oak 20; bend 0 0 0; fit;", 3, 38);
-        error("times 2 { take rib; }", 3, 10);
-        error("times 1 { take rib; } give rib;", 0, -1);
-        error("cut larch 10; bend 0 0 0; fit; cut elm 10; bend 0 0 0; fit; cut fir 10; bend 0 0 0; fit;", 0, -1);
+        Texts.errorIs("take bow;give bow;", 0, -1);
+        Texts.errorIs(" \n\ntake\nbow ; give  bow;\n", 0, -1);
+        Texts.errorIs("take bow; ", 3, 10);
+        Texts.errorIs("take bow; give stern;", 3, 10);
+        Texts.errorIs("take bow; take bow;", 3, 10);
+        Texts.errorIs("take bow; give bow; give bow;", 3, 20);
+        Texts.errorIs("take bow; give bow; take bow; give bow;", 0, -1);
+        Texts.errorIs("take floor; take side; give floor; give side;", 0, -1);
+        Texts.errorIs("take floor; take side; give floor; give rib;", 3, 35);
+        Texts.errorIs("cut oak20;", 3, 10);
+        Texts.errorIs("cut oak 020;", 3, 12);
+        Texts.errorIs("cut oak 20; cut oak 20;", 3, 12);
+        Texts.errorIs("wet 1;", 3, 0);
+        Texts.errorIs("heat 1;", 3, 0);
+        Texts.errorIs("bend 1 1 1;", 3, 0);
+        Texts.errorIs("hold 1;", 3, 0);
+        Texts.errorIs("take rib; hold 1; give rib;", 3, 10);
+        Texts.errorIs("fit;", 3, 0);
+        Texts.errorIs("cut oak 20; fit;", 3, 12);
+        Texts.errorIs("cut oak 20; bend 0 0 0; fit; fit;", 3, 29);
+        Texts.errorIs("cut oak 20; bend 0 0 0; fit; wet 1;", 3, 29);
+        Texts.errorIs("cut oak 20; bend 0 0 0; fit;", 0, -1);
+        Texts.errorIs("cut oak 20; bend 0 0 0; fit; cut fir 20; fit;", 3, 41);
+        Texts.errorIs("cut oak 20; hold 1; bend 0 0 0; fit;", 3, 12);
+        Texts.errorIs("take rib; cut oak 20; hold 1; bend 0 0 0; fit; give rib;", 0, -1);
+        Texts.errorIs("take rib; cut oak 20; give rib; hold 1; bend 0 0 0; fit;", 3, 32);
+        Texts.errorIs("take rib; take bow; cut oak 20; give rib; hold 1; bend 0 0 0; fit; give bow;", 0, -1);
+        Texts.errorIs("take rib; cut oak 20; bend 0 0 0; fit;", 3, 38);
+        Texts.errorIs("times 2 { take rib; }", 3, 10);
+        Texts.errorIs("times 1 { take rib; } give rib;", 0, -1);
+        Texts.errorIs("cut larch 10; bend 0 0 0; fit; cut elm 10; bend 0 0 0; fit; cut fir 10; bend 0 0 0; fit;", 0, -1);
     }
 
     private static void errorsInTheirOrder() {
-        error("wet 31;", 3, 0);
-        error("cut oak 20; cut oak 9;", 3, 12);
-        error("cut oak 9; cut oak 20;", 2, 8);
-        error("times 2 { cut oak 20; bend 1 1 1; } cut oak 9;", 3, 10);
-        error("times 10 { give rib; }", 2, 6);
-        error("give rib; times 10 { give rib; }", 3, 0);
-        error("take rib; times 10 { give rib; }", 2, 16);
-        error("cut oak 20; bend 41 41 41;", 2, 17);
-        error("times1{times1{times1{times0{take rib;give rib;}}}}", 4, 21);
-        error("times1{times1{times1{give rib;times0{take rib;}}}}", 3, 21);
-        error("times1{times1{times0{times1{take rib;give rib;}}}}", 2, 19);
-        error("times1{times1{times1{take rib;times 1{give rib;}}}}", 4, 30);
+        Texts.errorIs("wet 31;", 3, 0);
+        Texts.errorIs("cut oak 20; cut oak 9;", 3, 12);
+        Texts.errorIs("cut oak 9; cut oak 20;", 2, 8);
+        Texts.errorIs("times 2 { cut oak 20; bend 1 1 1; } cut oak 9;", 3, 10);
+        Texts.errorIs("times 10 { give rib; }", 2, 6);
+        Texts.errorIs("give rib; times 10 { give rib; }", 3, 0);
+        Texts.errorIs("take rib; times 10 { give rib; }", 2, 16);
+        Texts.errorIs("cut oak 20; bend 41 41 41;", 2, 17);
+        Texts.errorIs("times1{times1{times1{times0{take rib;give rib;}}}}", 4, 21);
+        Texts.errorIs("times1{times1{times1{give rib;times0{take rib;}}}}", 3, 21);
+        Texts.errorIs("times1{times1{times0{times1{take rib;give rib;}}}}", 2, 19);
+        Texts.errorIs("times1{times1{times1{take rib;times 1{give rib;}}}}", 4, 30);
     }
 
     private static void limitsOfNumbers() {
-        error("times 0 { take rib; give rib; }", 2, 6);
-        error("times 1 { take rib; give rib; }", 0, -1);
-        error("times 9 { take rib; give rib; }", 0, -1);
-        error("times 10 { take rib; give rib; }", 2, 6);
-        error("cut oak 9; bend 0 0 0; fit;", 2, 8);
-        error("cut oak 10; bend 0 0 0; fit;", 0, -1);
-        error("cut oak 200; bend 0 0 0; fit;", 0, -1);
-        error("cut oak 201; bend 0 0 0; fit;", 2, 8);
+        Texts.errorIs("times 0 { take rib; give rib; }", 2, 6);
+        Texts.errorIs("times 1 { take rib; give rib; }", 0, -1);
+        Texts.errorIs("times 9 { take rib; give rib; }", 0, -1);
+        Texts.errorIs("times 10 { take rib; give rib; }", 2, 6);
+        Texts.errorIs("cut oak 9; bend 0 0 0; fit;", 2, 8);
+        Texts.errorIs("cut oak 10; bend 0 0 0; fit;", 0, -1);
+        Texts.errorIs("cut oak 200; bend 0 0 0; fit;", 0, -1);
+        Texts.errorIs("cut oak 201; bend 0 0 0; fit;", 2, 8);
         for (String word : new String[] {"wet ", "heat", "hold"}) {
             String ahead = "take rib; cut oak 10; " + word + " ";
             String behind = "; bend 0 0 0; fit; give rib;";
-            error(ahead + "0" + behind, 2, 27);
-            error(ahead + "1" + behind, 0, -1);
-            error(ahead + "30" + behind, 0, -1);
-            error(ahead + "31" + behind, 2, 27);
+            Texts.errorIs(ahead + "0" + behind, 2, 27);
+            Texts.errorIs(ahead + "1" + behind, 0, -1);
+            Texts.errorIs(ahead + "30" + behind, 0, -1);
+            Texts.errorIs(ahead + "31" + behind, 2, 27);
         }
-        error("cut oak 10; bend 0 40 0; fit;", 0, -1);
-        error("cut oak 10; bend 41 0 0; fit;", 2, 17);
-        error("cut oak 10; bend 0 41 0; fit;", 2, 19);
-        error("cut oak 10; bend 0 0 41; fit;", 2, 21);
-        error("cut oak 10; bend 999 0 0; fit;", 2, 17);
+        Texts.errorIs("cut oak 10; bend 0 40 0; fit;", 0, -1);
+        Texts.errorIs("cut oak 10; bend 41 0 0; fit;", 2, 17);
+        Texts.errorIs("cut oak 10; bend 0 41 0; fit;", 2, 19);
+        Texts.errorIs("cut oak 10; bend 0 0 41; fit;", 2, 21);
+        Texts.errorIs("cut oak 10; bend 999 0 0; fit;", 2, 17);
     }
 
     private static void limitOfActions() {
-        error(TWO_BY_THIRTY, 0, -1);
-        error(TWO_BY_THIRTY + "take rib; give rib;", 4, TWO_BY_THIRTY.length());
-        error(TWO_BY_THIRTY + "give rib;", 3, TWO_BY_THIRTY.length());
-        error(TWO_BY_THIRTY + "cut oak 9;", 4, TWO_BY_THIRTY.length());
-        error(TWO_BY_THIRTY + "times 0 { take rib; }", 2, TWO_BY_THIRTY.length() + 6);
-        error(TWO_BY_THIRTY + "times 1 { take rib; }", 4, TWO_BY_THIRTY.length() + 10);
-        error("times 9 { times 9 { times 9 { take rib; give rib; } } }", 4, 30);
-        error("take bow;" + "take rib;give rib;".repeat(29) + "give bow;", 0, -1);
-        error("take bow;" + "take rib;give rib;".repeat(29) + "take rib;give rib;", 4, 9 + 29 * 18 + 9);
-        error("take rib;" + " ".repeat(991), 3, 1000);
-        error(" ".repeat(982) + "take rib;give rib;", 0, -1);
-        error(" ".repeat(1000), 1, 1000);
+        Texts.errorIs(TWO_BY_THIRTY, 0, -1);
+        Texts.errorIs(TWO_BY_THIRTY + "take rib; give rib;", 4, TWO_BY_THIRTY.length());
+        Texts.errorIs(TWO_BY_THIRTY + "give rib;", 3, TWO_BY_THIRTY.length());
+        Texts.errorIs(TWO_BY_THIRTY + "cut oak 9;", 4, TWO_BY_THIRTY.length());
+        Texts.errorIs(TWO_BY_THIRTY + "times 0 { take rib; }", 2, TWO_BY_THIRTY.length() + 6);
+        Texts.errorIs(TWO_BY_THIRTY + "times 1 { take rib; }", 4, TWO_BY_THIRTY.length() + 10);
+        Texts.errorIs("times 9 { times 9 { times 9 { take rib; give rib; } } }", 4, 30);
+        Texts.errorIs("take bow;" + "take rib;give rib;".repeat(29) + "give bow;", 0, -1);
+        Texts.errorIs("take bow;" + "take rib;give rib;".repeat(29) + "take rib;give rib;", 4, 9 + 29 * 18 + 9);
+        Texts.errorIs("take rib;" + " ".repeat(991), 3, 1000);
+        Texts.errorIs(" ".repeat(982) + "take rib;give rib;", 0, -1);
+        Texts.errorIs(" ".repeat(1000), 1, 1000);
     }
 
     private static void loops() {
-        error("times 2 { times 2 { times 2 { take rib; give rib; } } } times 2 { take rib; give rib; }", 0, -1);
-        error("times1{times1{take rib;}times1{give rib;}}times1{times1{times1{take bow;give bow;}}}", 0, -1);
+        Texts.errorIs("times 2 { times 2 { times 2 { take rib; give rib; } } } times 2 { take rib; give rib; }", 0, -1);
+        Texts.errorIs("times1{times1{take rib;}times1{give rib;}}times1{times1{times1{take bow;give bow;}}}", 0, -1);
         BendYard x = new BendYard();
         Texts.compile(x, 2, "times 2 { take rib; times 3 { take bow; give bow; } give rib; }");
         Check.same("actions of loops", 16, x.plan(2, 0));
@@ -303,21 +303,8 @@ public final class PlanTest {
     private static void planFacts() {
         BendYard x = new BendYard();
         Texts.compile(x, 1, "take rib; cut oak 30; wet 5; heat 6; bend 10 12 10; hold 8; fit; give rib;");
-        facts(x, 1, 8, 1, 30, 24);
+        Yards.planIs(x, 1, 8, 1, 30, 24);
         Texts.compile(x, 1, "times 3 { cut elm 15; wet 2; bend 1 2 3; bend 0 0 0; fit; } cut fir 200; bend 1 1 1; fit;");
-        facts(x, 1, 18, 4, 245, 21);
-    }
-
-    private static void facts(BendYard x, int plan, int... due) {
-        for (int what = 0; what < due.length; what++) {
-            Check.same("plan(" + plan + ", " + what + ")", due[what], x.plan(plan, what));
-        }
-    }
-
-    private static void error(String text, int error, int place) {
-        BendYard x = new BendYard();
-        Check.same("compile of '" + text + "'", error, Texts.compile(x, 0, text));
-        Check.same("errorAt of '" + text + "'", place, x.errorAt());
-        Check.note(x.plan(0, 0) > 0 == (error == 0), "'" + text + "' was told or not, other than is due");
+        Yards.planIs(x, 1, 18, 4, 245, 21);
     }
 }

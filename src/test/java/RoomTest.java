@@ -21,9 +21,10 @@ public final class RoomTest {
             x.stuck();
         }
         note("400 calls of ticks", bytes() - before, 1000);
+        BendYard y = new BendYard();
         before = bytes();
         for (int i = 0; i < 128; i++) {
-            Texts.compile(x, i % 6, "times5{times6{take rib;give rib;}}");
+            Texts.compile(y, i % 6, "times5{times6{take rib;give rib;}}");
         }
         note("128 plans of 60 actions", bytes() - before, 128 * 4000);
         Check.end("RoomTest");

@@ -24,17 +24,6 @@ public final class SlipTest {
         Check.end("SlipTest");
     }
 
-    private static BendYard yard(int slips, String... plans) {
-        BendYard x = new BendYard();
-        for (int i = 0; i < plans.length; i++) {
-            Check.same("plan " + plans[i], 0, Texts.compile(x, i, plans[i]));
-        }
-        for (int i = 0; i < slips; i++) {
-            x.addSlip();
-        }
-        return x;
-    }
-
     private static void addSlip() {
         BendYard x = new BendYard();
         for (int i = 0; i < 6; i++) {
@@ -42,16 +31,16 @@ public final class SlipTest {
             Check.same("slips", i + 1, x.count(2));
         }
         Check.refuses(x, "seventh slip", Texts.STATE, () -> x.addSlip());
-        facts(x, 5, 0, -1, 0, 0, 0, 0, 0, 0, 0, -1, -1, 0, 0, 0, -1);
+        Yards.slipIs(x, 5, 0, -1, 0, 0, 0, 0, 0, 0, 0, -1, -1, 0, 0, 0, -1);
     }
 
     private static void start() {
-        BendYard x = yard(3, "take rib; give rib;", "take bow; give bow;");
+        BendYard x = Yards.withSlips(3, "take rib; give rib;", "take bow; give bow;");
         x.run(7);
         Check.same("first start", 1, x.start(2, 1, 60));
         Check.same("second start", 2, x.start(0, 0, 0));
-        facts(x, 2, 1, 1, 0, 0, 0, 0, 0, 0, 0, -1, -1, 0, 0, 0, 7);
-        facts(x, 0, 1, 0, 0, 0, 0, 0, 0, 0, 0, -1, -1, 0, 0, 0, 7);
+        Yards.slipIs(x, 2, 1, 1, 0, 0, 0, 0, 0, 0, 0, -1, -1, 0, 0, 0, 7);
+        Yards.slipIs(x, 0, 1, 0, 0, 0, 0, 0, 0, 0, 0, -1, -1, 0, 0, 0, 7);
         Check.same("slips that build", 2, x.count(3));
         x.addFrame(RIB);
         x.run(3);
@@ -62,7 +51,7 @@ public final class SlipTest {
     }
 
     private static void startRefuses() {
-        BendYard x = yard(1, "take rib; give rib;");
+        BendYard x = Yards.withSlips(1, "take rib; give rib;");
         Check.refuses(x, "start(-1, 0, 0)", Texts.BOUNDS, () -> x.start(-1, 0, 0));
         Check.refuses(x, "start(1, 0, 0)", Texts.BOUNDS, () -> x.start(1, 0, 0));
         Check.refuses(x, "start(1, 6, 61)", Texts.BOUNDS, () -> x.start(1, 6, 61));
@@ -78,7 +67,7 @@ public final class SlipTest {
     }
 
     private static void slipKeepsItsPlan() {
-        BendYard x = yard(1, "take rib; take bow; give rib; give bow;");
+        BendYard x = Yards.withSlips(1, "take rib; take bow; give rib; give bow;");
         x.addFrame(RIB);
         x.addFrame(BOW);
         x.start(0, 0, 0);
@@ -96,39 +85,39 @@ public final class SlipTest {
     }
 
     private static void slipFacts() {
-        BendYard x = yard(1, "take rib; cut larch 20; wet 2; heat 2; bend 2 9 1; fit; cut fir 10; bend 0 0 0; fit; give rib;");
+        BendYard x = Yards.withSlips(1, "take rib; cut larch 20; wet 2; heat 2; bend 2 9 1; fit; cut fir 10; bend 0 0 0; fit; give rib;");
         x.addFrame(RIB);
         x.addPlank(2, 20, 50);
         x.start(0, 0, 30);
         x.run(1);
-        facts(x, 0, 1, 0, 0, 0, 0, 0, 0, 0, 0, RIB, 1, 0, 0, 0, 0);
+        Yards.slipIs(x, 0, 1, 0, 0, 0, 0, 0, 0, 0, 0, RIB, 1, 0, 0, 0, 0);
         x.run(1);
-        facts(x, 0, 1, 0, 1, 0, 0, 0, 0, 0, 0, -1, -1, 0, 4, 0, 0);
+        Yards.slipIs(x, 0, 1, 0, 1, 0, 0, 0, 0, 0, 0, -1, -1, 0, 4, 0, 0);
         x.run(1);
-        facts(x, 0, 1, 0, 2, 0, 0, 1, 50, 20, 0, -1, -1, 0, 4, 0, 0);
+        Yards.slipIs(x, 0, 1, 0, 2, 0, 0, 1, 50, 20, 0, -1, -1, 0, 4, 0, 0);
         x.run(1);
-        facts(x, 0, 1, 0, 2, 0, 0, 1, 58, 20, 0, -1, -1, 0, 4, 0, 0);
+        Yards.slipIs(x, 0, 1, 0, 2, 0, 0, 1, 58, 20, 0, -1, -1, 0, 4, 0, 0);
         x.run(1);
-        facts(x, 0, 1, 0, 3, 0, 0, 1, 66, 20, 0, -1, -1, 0, 4, 0, 0);
+        Yards.slipIs(x, 0, 1, 0, 3, 0, 0, 1, 66, 20, 0, -1, -1, 0, 4, 0, 0);
         x.run(2);
-        facts(x, 0, 1, 0, 4, 0, 0, 1, 60, 70, 0, -1, -1, 0, 4, 0, 0);
+        Yards.slipIs(x, 0, 1, 0, 4, 0, 0, 1, 60, 70, 0, -1, -1, 0, 4, 0, 0);
         // 70 * (60 + 20) / 500 is 11: all bends come to their targets at once.
         x.run(1);
-        facts(x, 0, 1, 0, 5, 0, 0, 1, 59, 60, 0, -1, -1, 0, 4, 0, 0);
+        Yards.slipIs(x, 0, 1, 0, 5, 0, 0, 1, 59, 60, 0, -1, -1, 0, 4, 0, 0);
         // 9 * 59 / 200 is 2, the others spring back by 0.
         x.run(1);
-        facts(x, 0, 1, 0, 6, 1, 2, 0, 0, 0, 0, -1, -1, 0, 4, 0, 0);
+        Yards.slipIs(x, 0, 1, 0, 6, 1, 2, 0, 0, 0, 0, -1, -1, 0, 4, 0, 0);
         x.run(3);
-        facts(x, 0, 1, 0, 6, 1, 2, 0, 0, 0, 0, -1, -1, 0, 4, 0, 0);
+        Yards.slipIs(x, 0, 1, 0, 6, 1, 2, 0, 0, 0, 0, -1, -1, 0, 4, 0, 0);
         x.addPlank(3, 10, 0);
         x.run(3);
-        facts(x, 0, 1, 0, 9, 2, 2, 0, 0, 0, 0, -1, -1, 0, 4, 0, 0);
+        Yards.slipIs(x, 0, 1, 0, 9, 2, 2, 0, 0, 0, 0, -1, -1, 0, 4, 0, 0);
         Check.same("hull is finished", 1, x.run(1));
-        facts(x, 0, 0, 0, 10, 2, 2, 0, 0, 0, 0, -1, -1, 0, 0, 0, 0);
+        Yards.slipIs(x, 0, 0, 0, 10, 2, 2, 0, 0, 0, 0, -1, -1, 0, 0, 0, 0);
     }
 
     private static void slipRefuses() {
-        BendYard x = yard(2);
+        BendYard x = Yards.withSlips(2);
         Check.refuses(x, "slip(2, 0)", Texts.BOUNDS, () -> x.slip(2, 0));
         Check.refuses(x, "slip(-1, 0)", Texts.BOUNDS, () -> x.slip(-1, 0));
         Check.refuses(x, "slip(0, -1)", Texts.BOUNDS, () -> x.slip(0, -1));
@@ -140,41 +129,34 @@ public final class SlipTest {
     }
 
     private static void bends() {
-        BendYard x = yard(1, "cut fir 10; bend 4 13 0; bend 9 3 0; fit;");
+        BendYard x = Yards.withSlips(1, "cut fir 10; bend 4 13 0; bend 9 3 0; fit;");
         x.addPlank(3, 10, 100);
-        bends(x, 0, 0, 0, 0, 0, 0);
+        Yards.bendsAre(x, 0, 0, 0, 0, 0, 0);
         x.start(0, 0, 60);
         x.run(1);
-        bends(x, 0, 0, 0, 0, 0, 0);
+        Yards.bendsAre(x, 0, 0, 0, 0, 0, 0);
         // 20 * 120 / 400 is 6, with a wetness of 99 and 98 it is 5.
         x.run(1);
-        bends(x, 4, 6, 0, 4, 13, 0);
+        Yards.bendsAre(x, 4, 6, 0, 4, 13, 0);
         x.run(1);
-        bends(x, 4, 11, 0, 4, 13, 0);
+        Yards.bendsAre(x, 4, 11, 0, 4, 13, 0);
         x.run(1);
-        bends(x, 4, 13, 0, 4, 13, 0);
+        Yards.bendsAre(x, 4, 13, 0, 4, 13, 0);
         x.run(1);
-        bends(x, 9, 8, 0, 9, 3, 0);
+        Yards.bendsAre(x, 9, 8, 0, 9, 3, 0);
         Check.same("actions done", 2, x.slip(0, 2));
         x.run(1);
-        bends(x, 9, 3, 0, 9, 3, 0);
+        Yards.bendsAre(x, 9, 3, 0, 9, 3, 0);
         Check.same("actions done", 3, x.slip(0, 2));
         x.run(1);
-        bends(x, 0, 0, 0, 0, 0, 0);
+        Yards.bendsAre(x, 0, 0, 0, 0, 0, 0);
         // A wetness of 95: 9 * 95 / 200 is 4, 3 * 95 / 200 is 1.
         Check.same("flaw of the hull", 5, x.slip(0, 4));
     }
 
-    private static void bends(BendYard x, int... due) {
-        for (int i = 0; i < 3; i++) {
-            Check.same("bend " + i, due[i], x.bend(0, i, false));
-            Check.same("target " + i, due[3 + i], x.bend(0, i, true));
-        }
-    }
-
     /** Two slips that hold what the other one waits for, since the tick 3. */
     private static BendYard deadlock() {
-        BendYard x = yard(2, "take rib; take side; give rib; give side;", "take side; take rib; give side; give rib;");
+        BendYard x = Yards.withSlips(2, "take rib; take side; give rib; give side;", "take side; take rib; give side; give rib;");
         x.addFrame(RIB);
         x.addFrame(SIDE);
         x.start(0, 0, 0);
@@ -189,8 +171,8 @@ public final class SlipTest {
         Check.same("both wait", 2, x.count(4));
         Check.same("both are stuck", 3, x.stuck());
         Check.same("lend", 1, x.lend(0, 1, RIB));
-        facts(x, 0, 1, 0, 1, 0, 0, 0, 0, 0, 0, RIB, 4, 1, 0, 0, 0);
-        facts(x, 1, 1, 1, 1, 0, 0, 0, 0, 0, 0, -1, -1, 0, 12, 0, 0);
+        Yards.slipIs(x, 0, 1, 0, 1, 0, 0, 0, 0, 0, 0, RIB, 4, 1, 0, 0, 0);
+        Yards.slipIs(x, 1, 1, 1, 1, 0, 0, 0, 0, 0, 0, -1, -1, 0, 12, 0, 0);
         Check.same("none is stuck", 0, x.stuck());
         Check.same("one waits for a rib", 1, x.frames(RIB, 2));
         Check.same("none waits for a side", 0, x.frames(SIDE, 2));
@@ -201,7 +183,7 @@ public final class SlipTest {
         Check.same("the borrower is done", 1, x.run(1));
         Check.same("the lender still waits", 1, x.slip(0, 11));
         x.run(1);
-        facts(x, 0, 1, 0, 1, 0, 0, 0, 0, 0, 0, SIDE, 8, 0, 4, 0, 0);
+        Yards.slipIs(x, 0, 1, 0, 1, 0, 0, 0, 0, 0, 0, SIDE, 8, 0, 4, 0, 0);
         x.run(1);
         Check.same("it has both", 12, x.slip(0, 12));
         Check.same("the lender is done", 1, x.run(2));
@@ -227,7 +209,7 @@ public final class SlipTest {
     }
 
     private static void lendAmongThree() {
-        BendYard x = yard(3, "take rib; take side; take bow; give bow; give side; give rib;",
+        BendYard x = Yards.withSlips(3, "take rib; take side; take bow; give bow; give side; give rib;",
                 "take rib; give rib;", "take side; give side;");
         x.addFrame(RIB);
         x.addFrame(SIDE);
@@ -251,7 +233,7 @@ public final class SlipTest {
     }
 
     private static void lendDuringWork() {
-        BendYard x = yard(2, "take rib; cut oak 20; heat 1; hold 6; bend 0 0 0; fit; give rib;", "take rib; give rib;");
+        BendYard x = Yards.withSlips(2, "take rib; cut oak 20; heat 1; hold 6; bend 0 0 0; fit; give rib;", "take rib; give rib;");
         x.addFrame(RIB);
         x.addPlank(0, 20, 90);
         x.start(0, 0, 0);
@@ -274,7 +256,7 @@ public final class SlipTest {
     }
 
     private static void lendToLender() {
-        BendYard x = yard(3, "take rib; take bow; give bow; give rib;");
+        BendYard x = Yards.withSlips(3, "take rib; take bow; give bow; give rib;");
         x.addFrame(RIB);
         x.addFrame(RIB);
         x.start(0, 0, 0);
@@ -283,15 +265,15 @@ public final class SlipTest {
         x.run(4);
         Check.same("slip 0 lends", 2, x.lend(0, 2, RIB));
         Check.same("slip 1 lends to the lender", 1, x.lend(1, 0, RIB));
-        facts(x, 0, 1, 0, 1, 0, 0, 0, 0, 0, 0, -1, -1, 0, 4, 0, 0);
-        facts(x, 1, 1, 0, 1, 0, 0, 0, 0, 0, 0, RIB, 4, 1, 0, 0, 0);
+        Yards.slipIs(x, 0, 1, 0, 1, 0, 0, 0, 0, 0, 0, -1, -1, 0, 4, 0, 0);
+        Yards.slipIs(x, 1, 1, 0, 1, 0, 0, 0, 0, 0, 0, RIB, 4, 1, 0, 0, 0);
         x.run(1);
         Check.same("slip 0 waits for a bow", BOW, x.slip(0, 9));
         Check.same("since its turn", 5, x.slip(0, 10));
     }
 
     private static void framesAreGrantedInTurn() {
-        BendYard x = yard(3, "take rib; give rib;", "take stern; take rib; give rib; give stern;");
+        BendYard x = Yards.withSlips(3, "take rib; give rib;", "take stern; take rib; give rib; give stern;");
         x.addFrame(STERN);
         x.start(1, 0, 0);
         x.run(1);
@@ -312,7 +294,7 @@ public final class SlipTest {
     }
 
     private static void stuck() {
-        BendYard x = yard(3, "take rib; give rib;");
+        BendYard x = Yards.withSlips(3, "take rib; give rib;");
         x.start(0, 0, 0);
         Check.same("none waits yet", 0, x.stuck());
         x.run(1);
@@ -325,7 +307,7 @@ public final class SlipTest {
         x.run(1);
         Check.same("a frame will be given", 0, x.stuck());
         for (int sort = 0; sort < 5; sort++) {
-            BendYard y = yard(1, "take " + YardModel.FRAMES.get(sort) + "; give " + YardModel.FRAMES.get(sort) + ";");
+            BendYard y = Yards.withSlips(1, "take " + YardModel.FRAMES.get(sort) + "; give " + YardModel.FRAMES.get(sort) + ";");
             y.start(0, 0, 0);
             y.run(1);
             Check.same("stuck without a frame of sort " + sort, 1, y.stuck());
@@ -335,7 +317,7 @@ public final class SlipTest {
     }
 
     private static void stuckThroughOthers() {
-        BendYard x = yard(4, "take bow; take stern; give stern; give bow;", "take stern; take rib; give rib; give stern;",
+        BendYard x = Yards.withSlips(4, "take bow; take stern; give stern; give bow;", "take stern; take rib; give rib; give stern;",
                 "take rib; cut oak 10; bend 0 0 0; fit; give rib;", "take side; give side;");
         x.addFrame(BOW);
         x.addFrame(STERN);
@@ -351,11 +333,5 @@ public final class SlipTest {
         x.addPlank(0, 10, 0);
         Check.same("three hulls", 3, x.run(40));
         Check.same("slip 3 still waits", 8, x.stuck());
-    }
-
-    private static void facts(BendYard x, int slip, int... due) {
-        for (int what = 0; what < due.length; what++) {
-            Check.same("slip(" + slip + ", " + what + ") at " + x.count(0), due[what], x.slip(slip, what));
-        }
     }
 }

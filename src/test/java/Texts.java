@@ -28,4 +28,12 @@ final class Texts {
         write(yard, text);
         return yard.compile(plan);
     }
+
+    /** Compiles the text as a plan of a new yard; it has to be told if the error that is due is 0, and only then. */
+    static void errorIs(String text, int error, int place) {
+        BendYard x = new BendYard();
+        Check.same("compile of '" + text + "'", error, compile(x, 0, text));
+        Check.same("errorAt of '" + text + "'", place, x.errorAt());
+        Check.note(x.plan(0, 0) > 0 == (error == 0), "'" + text + "' was told or not, other than is due");
+    }
 }

@@ -29,24 +29,6 @@ public final class TickTest {
         Check.end("TickTest");
     }
 
-    /** A yard with one slip that builds by the plan, and one plank that the first cut uses up. */
-    private static BendYard building(String plan, int wood, int length, int wetness, int tolerance) {
-        BendYard x = new BendYard();
-        Check.same("plan " + plan, 0, Texts.compile(x, 0, plan));
-        x.addSlip();
-        x.addPlank(wood, length, wetness);
-        x.start(0, 0, tolerance);
-        return x;
-    }
-
-    private static void piece(BendYard x, int actions, int wetness, int heat, int cracks) {
-        int tick = x.count(0);
-        Check.same("actions at " + tick, actions, x.slip(0, 2));
-        Check.same("wetness at " + tick, wetness, x.slip(0, 6));
-        Check.same("heat at " + tick, heat, x.slip(0, 7));
-        Check.same("cracks at " + tick, cracks, x.slip(0, 8));
-    }
-
     private static void run() {
         BendYard x = new BendYard();
         Check.refuses(x, "run(0)", Texts.ARGUMENT, () -> x.run(0));
@@ -83,87 +65,81 @@ public final class TickTest {
         x.start(1, 0, 0);
         x.start(2, 1, 0);
         x.run(1);
-        counts(x, 1, 3, 4, 3, 2, 0, 0, 6, 99);
+        Yards.countsAre(x, 1, 3, 4, 3, 2, 0, 0, 6, 99);
         x.run(2);
-        counts(x, 3, 3, 4, 2, 1, 1, 0, 6, 99);
+        Yards.countsAre(x, 3, 3, 4, 2, 1, 1, 0, 6, 99);
         x.run(1);
-        counts(x, 4, 3, 4, 2, 0, 1, 1, 6, 99);
+        Yards.countsAre(x, 4, 3, 4, 2, 0, 1, 1, 6, 99);
         x.run(1);
-        counts(x, 5, 3, 4, 1, 0, 2, 1, 15, 70);
+        Yards.countsAre(x, 5, 3, 4, 1, 0, 2, 1, 15, 70);
         x.run(10);
-        counts(x, 15, 3, 4, 1, 0, 2, 2, 15, 70);
-    }
-
-    private static void counts(BendYard x, int... due) {
-        for (int what = 0; what < due.length; what++) {
-            Check.same("count(" + what + ") at " + due[0], due[what], x.count(what));
-        }
+        Yards.countsAre(x, 15, 3, 4, 1, 0, 2, 2, 15, 70);
     }
 
     private static void wetAndHeatHaveLimits() {
-        BendYard x = building("cut fir 20; heat 8; wet 30; bend 0 0 0; fit;", 3, 20, 99, 0);
+        BendYard x = Yards.building("cut fir 20; heat 8; wet 30; bend 0 0 0; fit;", 3, 20, 99, 0);
         x.run(2);
-        piece(x, 1, 96, 45, 0);
+        Yards.pieceIs(x, 1, 96, 45, 0);
         x.run(6);
-        piece(x, 1, 78, 195, 0);
+        Yards.pieceIs(x, 1, 78, 195, 0);
         x.run(1);
-        piece(x, 2, 75, 200, 0);
+        Yards.pieceIs(x, 2, 75, 200, 0);
         x.run(1);
-        piece(x, 2, 83, 190, 0);
+        Yards.pieceIs(x, 2, 83, 190, 0);
         x.run(2);
-        piece(x, 2, 99, 170, 0);
+        Yards.pieceIs(x, 2, 99, 170, 0);
         x.run(1);
-        piece(x, 2, 100, 160, 0);
+        Yards.pieceIs(x, 2, 100, 160, 0);
         x.run(14);
-        piece(x, 2, 100, 20, 0);
+        Yards.pieceIs(x, 2, 100, 20, 0);
         x.run(11);
-        piece(x, 2, 100, 20, 0);
+        Yards.pieceIs(x, 2, 100, 20, 0);
         x.run(1);
-        piece(x, 3, 100, 20, 0);
+        Yards.pieceIs(x, 3, 100, 20, 0);
     }
 
     private static void holdHasLimits() {
-        BendYard x = building("take rib; cut fir 20; heat 2; hold 4; bend 0 0 0; fit; give rib;", 3, 20, 15, 0);
+        BendYard x = Yards.building("take rib; cut fir 20; heat 2; hold 4; bend 0 0 0; fit; give rib;", 3, 20, 15, 0);
         x.addFrame(2);
         x.run(5);
-        piece(x, 3, 9, 70, 0);
+        Yards.pieceIs(x, 3, 9, 70, 0);
         x.run(1);
-        piece(x, 3, 5, 55, 0);
+        Yards.pieceIs(x, 3, 5, 55, 0);
         x.run(2);
-        piece(x, 3, 0, 25, 0);
+        Yards.pieceIs(x, 3, 0, 25, 0);
         x.run(1);
-        piece(x, 4, 0, 20, 0);
+        Yards.pieceIs(x, 4, 0, 20, 0);
         x.run(1);
-        piece(x, 5, 0, 20, 0);
+        Yards.pieceIs(x, 5, 0, 20, 0);
     }
 
     private static void burning() {
-        BendYard x = building("cut fir 20; heat 10; bend 0 0 0; fit;", 3, 20, 12, 0);
+        BendYard x = Yards.building("cut fir 20; heat 10; bend 0 0 0; fit;", 3, 20, 12, 0);
         x.run(6);
-        piece(x, 1, 0, 145, 0);
+        Yards.pieceIs(x, 1, 0, 145, 0);
         Check.same("nothing is lost yet", 0, x.count(6));
         x.run(1);
-        piece(x, 0, 0, 0, 0);
+        Yards.pieceIs(x, 0, 0, 0, 0);
         Check.same("there is no piece", 0, x.slip(0, 5));
         Check.same("a piece is lost", 1, x.count(6));
         Check.same("by the slip", 1, x.slip(0, 13));
-        BendYard y = building("cut fir 20; heat 6; bend 0 0 0; fit;", 3, 20, 12, 0);
+        BendYard y = Yards.building("cut fir 20; heat 6; bend 0 0 0; fit;", 3, 20, 12, 0);
         y.run(7);
         Check.same("burnt in the last tick of heat", 1, y.count(6));
         Check.same("cut again", 0, y.slip(0, 2));
     }
 
     private static void notBurning() {
-        BendYard x = building("cut fir 20; heat 3; wet 2; heat 4; bend 0 0 0; fit;", 3, 20, 0, 0);
+        BendYard x = Yards.building("cut fir 20; heat 3; wet 2; heat 4; bend 0 0 0; fit;", 3, 20, 0, 0);
         x.run(9);
-        piece(x, 3, 7, 150, 0);
+        Yards.pieceIs(x, 3, 7, 150, 0);
         x.run(1);
-        piece(x, 0, 0, 0, 0);
-        BendYard y = building("cut fir 20; heat 7; bend 0 0 0; fit;", 3, 20, 28, 0);
+        Yards.pieceIs(x, 0, 0, 0, 0);
+        BendYard y = Yards.building("cut fir 20; heat 7; bend 0 0 0; fit;", 3, 20, 28, 0);
         y.run(7);
-        piece(y, 1, 10, 170, 0);
+        Yards.pieceIs(y, 1, 10, 170, 0);
         y.run(1);
-        piece(y, 0, 0, 0, 0);
+        Yards.pieceIs(y, 0, 0, 0, 0);
     }
 
     private static void stiffnesses() {
@@ -175,77 +151,77 @@ public final class TickTest {
     private static void stepsOfWoods(int wetness, int... steps) {
         for (int wood = 0; wood < 4; wood++) {
             String name = YardModel.WOODS.get(wood);
-            BendYard x = building("cut " + name + " 20; bend 40 0 3; fit;", wood, 20, wetness, 0);
+            BendYard x = Yards.building("cut " + name + " 20; bend 40 0 3; fit;", wood, 20, wetness, 0);
             x.run(2);
             Check.same("step of " + name, steps[wood], x.bend(0, 0, false));
             Check.same("no step", 0, x.bend(0, 1, false));
             Check.same("last step", Math.min(3, steps[wood]), x.bend(0, 2, false));
-            piece(x, 1, wetness - 1, 20, 0);
+            Yards.pieceIs(x, 1, wetness - 1, 20, 0);
         }
     }
 
     private static void cracks() {
-        BendYard x = building("cut oak 20; bend 1 0 0; fit;", 0, 20, 2, 0);
+        BendYard x = Yards.building("cut oak 20; bend 1 0 0; fit;", 0, 20, 2, 0);
         x.run(2);
-        piece(x, 1, 1, 20, 1);
+        Yards.pieceIs(x, 1, 1, 20, 1);
         x.run(1);
-        piece(x, 1, 0, 20, 2);
+        Yards.pieceIs(x, 1, 0, 20, 2);
         Check.same("target of a piece with cracks", 1, x.bend(0, 0, true));
         x.run(1);
-        piece(x, 0, 0, 0, 0);
+        Yards.pieceIs(x, 0, 0, 0, 0);
         Check.same("broken", 1, x.count(6));
         Check.same("no target without a piece", 0, x.bend(0, 0, true));
-        BendYard y = building("cut oak 20; bend 0 0 0; bend 0 0 0; bend 0 0 0; fit;", 0, 20, 2, 0);
+        BendYard y = Yards.building("cut oak 20; bend 0 0 0; bend 0 0 0; bend 0 0 0; fit;", 0, 20, 2, 0);
         y.run(4);
-        piece(y, 4, 0, 20, 0);
+        Yards.pieceIs(y, 4, 0, 20, 0);
     }
 
     private static void cracksCoolToo() {
-        BendYard x = building("cut oak 20; heat 1; bend 5 0 0; fit;", 0, 20, 3, 0);
+        BendYard x = Yards.building("cut oak 20; heat 1; bend 5 0 0; fit;", 0, 20, 3, 0);
         x.run(3);
-        piece(x, 2, 0, 35, 0);
+        Yards.pieceIs(x, 2, 0, 35, 0);
         Check.same("bent by 1", 1, x.bend(0, 0, false));
         x.run(1);
-        piece(x, 2, 0, 25, 1);
+        Yards.pieceIs(x, 2, 0, 25, 1);
         x.run(1);
-        piece(x, 2, 0, 20, 2);
+        Yards.pieceIs(x, 2, 0, 20, 2);
         Check.same("not bent any more", 1, x.bend(0, 0, false));
         x.run(1);
-        piece(x, 0, 0, 0, 0);
+        Yards.pieceIs(x, 0, 0, 0, 0);
     }
 
     private static void bendComesBack() {
-        BendYard x = building("cut fir 20; bend 5 5 0; bend 0 4 1; fit;", 3, 20, 100, 0);
+        BendYard x = Yards.building("cut fir 20; bend 5 5 0; bend 0 4 1; fit;", 3, 20, 100, 0);
         x.run(3);
         Check.same("bend 0", 0, x.bend(0, 0, false));
         Check.same("bend 1", 4, x.bend(0, 1, false));
         Check.same("bend 2", 1, x.bend(0, 2, false));
-        piece(x, 3, 98, 20, 0);
+        Yards.pieceIs(x, 3, 98, 20, 0);
     }
 
     private static void fitAndTolerance() {
         // Behind the bend the wetness is 99: each bend of 6 springs back by 2.
-        BendYard x = building("cut fir 20; bend 6 6 6; fit;", 3, 20, 100, 6);
+        BendYard x = Yards.building("cut fir 20; bend 6 6 6; fit;", 3, 20, 100, 6);
         Check.same("flaw as the tolerance", 1, x.run(3));
         Check.same("flaw of the hull", 6, x.slip(0, 4));
         Check.same("parts of the hull", 1, x.slip(0, 3));
         Check.same("nothing is lost", 0, x.count(6));
-        BendYard y = building("cut fir 20; bend 6 6 6; fit;", 3, 20, 100, 5);
+        BendYard y = Yards.building("cut fir 20; bend 6 6 6; fit;", 3, 20, 100, 5);
         Check.same("flaw above the tolerance", 0, y.run(3));
         Check.same("thrown away", 1, y.count(6));
         Check.same("cut again", 0, y.slip(0, 2));
         Check.same("no flaw of the hull", 0, y.slip(0, 4));
         Check.same("no parts of the hull", 0, y.slip(0, 3));
         // 200 * (80 + 20) / 400 is 50: bent in one tick, with a wetness of 80 at the end.
-        BendYard z = building("cut fir 20; heat 8; wet 1; bend 40 5 3; fit;", 3, 20, 97, 60);
+        BendYard z = Yards.building("cut fir 20; heat 8; wet 1; bend 40 5 3; fit;", 3, 20, 97, 60);
         z.run(11);
-        piece(z, 4, 80, 180, 0);
+        Yards.pieceIs(z, 4, 80, 180, 0);
         z.run(1);
         Check.same("40 * 80 / 200, 5 * 80 / 200 and 3 * 80 / 200", 16 + 2 + 1, z.slip(0, 4));
     }
 
     private static void lostPieceBeginsAnew() {
-        BendYard x = building("take rib; cut fir 20; bend 0 0 0; fit; cut fir 20; wet 3; bend 9 0 0; fit; give rib;", 3, 60, 100, 3);
+        BendYard x = Yards.building("take rib; cut fir 20; bend 0 0 0; fit; cut fir 20; wet 3; bend 9 0 0; fit; give rib;", 3, 60, 100, 3);
         x.addFrame(2);
         x.run(5);
         Check.same("first part", 1, x.slip(0, 3));
@@ -260,7 +236,7 @@ public final class TickTest {
         Check.same("two ticks of wet", 5, x.slip(0, 2));
         x.run(1);
         Check.same("three ticks of wet", 6, x.slip(0, 2));
-        BendYard y = building("cut fir 10; heat 6; bend 0 0 0; fit;", 3, 10, 12, 0);
+        BendYard y = Yards.building("cut fir 10; heat 6; bend 0 0 0; fit;", 3, 10, 12, 0);
         y.addPlank(3, 20, 40);
         y.run(7);
         Check.same("burnt in the sixth tick of heat", 1, y.slip(0, 13));
@@ -276,7 +252,7 @@ public final class TickTest {
     }
 
     private static void framesStayWhenAPieceIsLost() {
-        BendYard x = building("take bow; cut fir 10; give bow; take rib; bend 9 0 0; fit; give rib;", 3, 20, 100, 3);
+        BendYard x = Yards.building("take bow; cut fir 10; give bow; take rib; bend 9 0 0; fit; give rib;", 3, 20, 100, 3);
         x.addFrame(0);
         x.addFrame(2);
         x.run(7);
@@ -323,20 +299,14 @@ public final class TickTest {
         x.start(1, 5, 0);
         x.start(0, 5, 0);
         x.run(3);
-        hull(x, 0, 0, 5, 0, 0, 2, 5);
+        Yards.hullIs(x, 0, 0, 5, 0, 0, 2, 5);
         Check.refuses(x, "hull(1, 0)", Texts.BOUNDS, () -> x.hull(1, 0));
         Check.refuses(x, "hull(-1, 0)", Texts.BOUNDS, () -> x.hull(-1, 0));
         Check.refuses(x, "hull(0, -1)", Texts.BOUNDS, () -> x.hull(0, -1));
         Check.refuses(x, "hull(0, 6)", Texts.BOUNDS, () -> x.hull(0, 6));
         x.run(2);
-        hull(x, 1, 2, 4, 2, 12, 0, 6);
-        hull(x, 2, 1, 5, 0, 0, 2, 7);
-    }
-
-    private static void hull(BendYard x, int index, int... due) {
-        for (int what = 0; what < due.length; what++) {
-            Check.same("hull(" + index + ", " + what + ")", due[what], x.hull(index, what));
-        }
+        Yards.hullIs(x, 1, 2, 4, 2, 12, 0, 6);
+        Yards.hullIs(x, 2, 1, 5, 0, 0, 2, 7);
     }
 
     private static void hullsBeyondForty() {
@@ -366,7 +336,7 @@ public final class TickTest {
     }
 
     private static void foresee() {
-        BendYard x = building("cut fir 20; bend 6 6 6; fit;", 3, 40, 100, 5);
+        BendYard x = Yards.building("cut fir 20; bend 6 6 6; fit;", 3, 40, 100, 5);
         x.addSlip();
         x.addFrame(2);
         Texts.compile(x, 1, "take rib; take bow; give rib; give bow;");
@@ -401,7 +371,7 @@ public final class TickTest {
     }
 
     private static void foreseeChangesNothing() {
-        BendYard x = building("times 3 { cut fir 20; wet 2; heat 3; bend 6 9 6; fit; }", 3, 150, 50, 50);
+        BendYard x = Yards.building("times 3 { cut fir 20; wet 2; heat 3; bend 6 9 6; fit; }", 3, 150, 50, 50);
         for (int i = 0; i < 30; i++) {
             long before = x.digest();
             for (int what = 0; what < 4; what++) {
@@ -438,7 +408,7 @@ public final class TickTest {
     }
 
     private static void foreseeWithCracks() {
-        BendYard x = building("cut oak 20; bend 1 0 0; fit;", 0, 20, 2, 0);
+        BendYard x = Yards.building("cut oak 20; bend 1 0 0; fit;", 0, 20, 2, 0);
         for (int past = 0; past < 4; past++) {
             Check.same("lost in 3 from " + past, past == 0 ? 0 : 1, x.foresee(3, 1));
             Check.same("lost in " + (3 - past) + " from " + past, 0, past == 3 ? 0 : x.foresee(3 - past, 1));
@@ -486,7 +456,7 @@ public final class TickTest {
     }
 
     private static void flaw() {
-        BendYard x = building("cut fir 20; bend 6 6 6; fit;", 3, 60, 100, 60);
+        BendYard x = Yards.building("cut fir 20; bend 6 6 6; fit;", 3, 60, 100, 60);
         Check.sameDouble("flaw of none", 0.0, x.flaw());
         x.run(3);
         Check.sameDouble("flaw of one hull", 6.0, x.flaw());
@@ -511,8 +481,17 @@ public final class TickTest {
     }
 
     private static void digest() {
+        BendYard fresh = new BendYard();
+        Check.same("digest of a new yard", Yards.exactDigest(fresh).longValue(), fresh.digest());
+        for (int ticks = 1; ticks <= 20; ticks++) {
+            BendYard x = yardToDigest();
+            Check.same("hulls till " + ticks, ticks < 17 ? ticks < 9 ? 0 : 1 : 2, x.run(ticks));
+            Check.same("digest at " + ticks, Yards.exactDigest(x).longValue(), x.digest());
+        }
+    }
+
+    private static BendYard yardToDigest() {
         BendYard x = new BendYard();
-        Check.same("digest of a new yard", sum(x), x.digest());
         Texts.compile(x, 1, "take rib; cut elm 20; heat 2; bend 5 6 7; fit; give rib;");
         x.addPlank(1, 100, 40);
         x.addKnot(0, 30);
@@ -521,25 +500,6 @@ public final class TickTest {
         x.addSlip();
         x.start(0, 1, 50);
         x.start(1, 1, 50);
-        for (int i = 0; i < 20; i++) {
-            x.run(1);
-            Check.same("digest at " + x.count(0), sum(x), x.digest());
-        }
-        Check.same("hulls at the end", 2, x.count(5));
-    }
-
-    private static long sum(BendYard x) {
-        long d = 467;
-        for (int i = 0; i < 9; i++) d = d * 31 + x.count(i);
-        for (int i = 0; i < 24; i++) d = d * 31 + x.plan(i / 4, i % 4);
-        for (int i = 0; i < x.count(1) * 5; i++) d = d * 31 + x.plank(i / 5, i % 5);
-        for (int i = 0; i < 15; i++) d = d * 31 + x.frames(i / 3, i % 3);
-        for (int slip = 0; slip < x.count(2); slip++) {
-            for (int i = 0; i < 15; i++) d = d * 31 + x.slip(slip, i);
-            for (int i = 0; i < 3; i++) d = d * 31 + x.bend(slip, i, false);
-            for (int i = 0; i < 3; i++) d = d * 31 + x.bend(slip, i, true);
-        }
-        for (int i = 0; i < Math.min(40, x.count(5)) * 6; i++) d = d * 31 + x.hull(i / 6, i % 6);
-        return d;
+        return x;
     }
 }

@@ -22,8 +22,8 @@ public final class WoodTest {
         BendYard x = new BendYard();
         Check.same("least plank", 0, x.addPlank(0, 10, 0));
         Check.same("greatest plank", 1, x.addPlank(3, 300, 100));
-        facts(x, 0, 0, 10, 0, 0, 10);
-        facts(x, 1, 3, 300, 100, 0, 300);
+        Yards.plankIs(x, 0, 0, 10, 0, 0, 10);
+        Yards.plankIs(x, 1, 3, 300, 100, 0, 300);
         Check.refuses(x, "wood -1", Texts.ARGUMENT, () -> x.addPlank(-1, 10, 0));
         Check.refuses(x, "wood 4", Texts.ARGUMENT, () -> x.addPlank(4, 10, 0));
         Check.refuses(x, "length 9", Texts.ARGUMENT, () -> x.addPlank(0, 9, 0));
@@ -41,7 +41,7 @@ public final class WoodTest {
         }
         Check.refuses(x, "61st plank", Texts.STATE, () -> x.addPlank(0, 10, 0));
         Check.refuses(x, "61st plank of no wood", Texts.ARGUMENT, () -> x.addPlank(4, 10, 0));
-        facts(x, 59, 3, 69, 59, 0, 69);
+        Yards.plankIs(x, 59, 3, 69, 59, 0, 69);
     }
 
     private static void addKnot() {
@@ -54,7 +54,7 @@ public final class WoodTest {
         Check.refuses(x, "ninth knot", Texts.STATE, () -> x.addKnot(0, 1));
         Check.refuses(x, "ninth knot at a knot", Texts.STATE, () -> x.addKnot(0, 25));
         Check.refuses(x, "ninth knot at no place", Texts.ARGUMENT, () -> x.addKnot(0, 50));
-        facts(x, 0, 1, 50, 7, 8, 13);
+        Yards.plankIs(x, 0, 1, 50, 7, 8, 13);
         x.addPlank(1, 12, 7);
         Check.same("first knot", 1, x.addKnot(1, 11));
         Check.refuses(x, "same knot", Texts.STATE, () -> x.addKnot(1, 11));
@@ -73,7 +73,7 @@ public final class WoodTest {
         Check.refuses(x, "plank(-1, 0)", Texts.BOUNDS, () -> x.plank(-1, 0));
         Check.refuses(x, "plank(0, 5)", Texts.BOUNDS, () -> x.plank(0, 5));
         Check.refuses(x, "plank(0, -1)", Texts.BOUNDS, () -> x.plank(0, -1));
-        facts(x, 0, 2, 100, 33, 0, 100);
+        Yards.plankIs(x, 0, 2, 100, 33, 0, 100);
     }
 
     private static void clearPlaces() {
@@ -136,8 +136,8 @@ public final class WoodTest {
         x.addKnot(0, 99);
         x.start(0, 0, 0);
         x.run(1);
-        facts(x, 0, 0, 29, 40, 2, 22);
-        facts(x, 1, 0, 41, 40, 2, 38);
+        Yards.plankIs(x, 0, 0, 29, 40, 2, 22);
+        Yards.plankIs(x, 1, 0, 41, 40, 2, 38);
         Check.same("waste", 0, x.count(7));
         Check.same("planks", 2, x.count(1));
         Check.same("length of all", 70, x.count(8));
@@ -152,8 +152,8 @@ public final class WoodTest {
         x.addKnot(0, 80);
         x.start(0, 0, 0);
         x.run(1);
-        facts(x, 0, 0, 0, 40, 0, 0);
-        facts(x, 1, 0, 70, 40, 2, 49);
+        Yards.plankIs(x, 0, 0, 0, 40, 0, 0);
+        Yards.plankIs(x, 1, 0, 70, 40, 2, 49);
         Check.refuses(x, "knot directly behind the cut", Texts.STATE, () -> x.addKnot(1, 0));
         Check.refuses(x, "knot behind it", Texts.STATE, () -> x.addKnot(1, 50));
         Check.same("knot of the new plank", 3, x.addKnot(1, 69));
@@ -163,8 +163,8 @@ public final class WoodTest {
         }
         y.start(0, 0, 0);
         y.run(1);
-        facts(y, 0, 0, 20, 40, 4, 4);
-        facts(y, 1, 0, 60, 40, 4, 29);
+        Yards.plankIs(y, 0, 0, 20, 40, 4, 4);
+        Yards.plankIs(y, 1, 0, 60, 40, 4, 29);
     }
 
     private static void cutWithWaste() {
@@ -174,7 +174,7 @@ public final class WoodTest {
         x.addKnot(0, 95);
         x.start(0, 0, 0);
         x.run(1);
-        facts(x, 0, 0, 0, 40, 0, 0);
+        Yards.plankIs(x, 0, 0, 0, 40, 0, 0);
         Check.same("waste", 15, x.count(7));
         Check.same("planks", 1, x.count(1));
         Check.same("length of all", 0, x.count(8));
@@ -187,19 +187,19 @@ public final class WoodTest {
         x.addKnot(0, 9);
         x.start(0, 0, 0);
         x.run(1);
-        facts(x, 0, 0, 10, 40, 1, 9);
-        facts(x, 1, 0, 10, 40, 0, 10);
+        Yards.plankIs(x, 0, 0, 10, 40, 1, 9);
+        Yards.plankIs(x, 1, 0, 10, 40, 0, 10);
         Check.same("waste of 10 and 10", 0, x.count(7));
         BendYard y = cutter(82);
         y.addKnot(0, 8);
         y.start(0, 0, 0);
         y.run(1);
-        facts(y, 0, 0, 0, 40, 0, 0);
+        Yards.plankIs(y, 0, 0, 0, 40, 0, 0);
         Check.same("waste of 9 and 9", 18, y.count(7));
         BendYard z = cutter(100);
         z.start(0, 0, 0);
         z.run(1);
-        facts(z, 0, 0, 0, 40, 0, 0);
+        Yards.plankIs(z, 0, 0, 0, 40, 0, 0);
         Check.same("waste of a whole plank", 0, z.count(7));
     }
 
@@ -211,7 +211,7 @@ public final class WoodTest {
         }
         x.start(0, 0, 0);
         x.run(1);
-        facts(x, 0, 0, 20, 40, 1, 19);
+        Yards.plankIs(x, 0, 0, 20, 40, 1, 19);
         Check.same("waste of a 61st plank", 50, x.count(7));
         Check.same("planks", 60, x.count(1));
     }
@@ -235,7 +235,7 @@ public final class WoodTest {
         x.addPlank(1, 30, 16);
         x.start(0, 0, 0);
         x.run(4);
-        facts(x, 0, 0, 100, 40, 0, 100);
+        Yards.plankIs(x, 0, 0, 100, 40, 0, 100);
         x.run(1);
         Check.same("wet plank", 39, x.plank(0, 2));
         Check.same("plank of which nothing is left", 30, x.plank(1, 2));
@@ -283,11 +283,5 @@ public final class WoodTest {
         Check.same("one waits for the other sort", 0, x.frames(0, 2));
         x.run(1);
         Check.same("one waits for the other sort now", 1, x.frames(0, 2));
-    }
-
-    private static void facts(BendYard x, int plank, int... due) {
-        for (int what = 0; what < due.length; what++) {
-            Check.same("plank(" + plank + ", " + what + ")", due[what], x.plank(plank, what));
-        }
     }
 }
