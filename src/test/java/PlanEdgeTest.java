@@ -42,6 +42,8 @@ public final class PlanEdgeTest {
         whatAnErrorLeaves();
         errorAtOfTheLatestCompile();
         greatestFacts();
+        sixtyActionsAreDone();
+        thirtyTicksAreDone();
         Check.end("PlanEdgeTest");
     }
 
@@ -512,5 +514,35 @@ public final class PlanEdgeTest {
         Yards.planIs(x, 2, 60, 0, 0, 60);
         Texts.compile(x, 3, "cut fir 10;bend 0 0 0;fit;");
         Yards.planIs(x, 3, 3, 1, 10, 3);
+    }
+
+    /** A plan of 60 actions is done to its last one. */
+    private static void sixtyActionsAreDone() {
+        BendYard x = Yards.withSlips(1, "times 5{times 6{" + GOOD + "}}");
+        x.addFrame(2);
+        x.start(0, 0, 0);
+        Check.same("foreseen", 90, x.foresee(200, 3));
+        Check.same("not finished", 0, x.run(89));
+        Check.same("actions", 59, x.slip(0, 2));
+        Check.same("finished", 1, x.run(1));
+        Check.same("actions", 60, x.slip(0, 2));
+    }
+
+    /** Wet, heat and hold are done behind 30 ticks, if their number is 30. */
+    private static void thirtyTicksAreDone() {
+        for (String word : new String[] {"wet", "hold", "heat"}) {
+            for (int number : new int[] {1, 29, 30}) {
+                String treatment = word.equals("heat") ? "wet 30;heat " + number : word + " " + number;
+                BendYard x = Yards.building("take rib;cut fir 20;" + treatment + ";bend 0 0 0;fit;give rib;", 3, 20, 100, 0);
+                x.addFrame(2);
+                x.run(word.equals("heat") ? 33 : 3);
+                int actions = x.slip(0, 2);
+                for (int i = 1; i <= number; i++) {
+                    x.run(1);
+                    Check.same(treatment + " behind " + i, i == number ? actions + 1 : actions, x.slip(0, 2));
+                }
+                Check.same("nothing burnt", 0, x.count(6));
+            }
+        }
     }
 }

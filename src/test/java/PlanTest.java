@@ -15,9 +15,11 @@ public final class PlanTest {
         loops();
         compileEmptiesTheTape();
         compileKeepsOrReplaces();
+        otherCallsLeaveTheTape();
         compileBeginsAnew();
         wrongPlans();
         planFacts();
+        framesAmongTheActionsOfAPiece();
         Check.end("PlanTest");
     }
 
@@ -272,6 +274,42 @@ public final class PlanTest {
         Check.same("actions of plan 5", 4, x.plan(5, 0));
     }
 
+    /** "which feed and trim fill; compile reads it": no other call changes the tape, or the error of the latest compile. */
+    private static void otherCallsLeaveTheTape() {
+        BendYard x = new BendYard();
+        Texts.compile(x, 0, "take rib; give rib;");
+        Texts.compile(x, 1, "take rib; take");
+        Texts.write(x, "take bow; give bow;");
+        x.addSlip();
+        x.addSlip();
+        x.addPlank(0, 50, 50);
+        x.addKnot(0, 20);
+        x.addFrame(2);
+        x.start(0, 0, 0);
+        x.start(1, 0, 0);
+        x.run(2);
+        x.lend(0, 1, 2);
+        x.run(1);
+        x.foresee(10, 0);
+        x.plan(0, 0);
+        x.plank(0, 0);
+        x.find(0, 10, true);
+        x.frames(2, 0);
+        x.slip(0, 0);
+        x.bend(0, 0, true);
+        x.stuck();
+        x.count(0);
+        x.flaw();
+        x.digest();
+        x.run(10);
+        x.hull(0, 0);
+        Check.same("errorAt behind all other calls", 14, x.errorAt());
+        Check.refuses(x, "trim behind all other calls", Texts.ARGUMENT, () -> x.trim(20));
+        Check.same("trim behind all other calls", 19, x.trim(19));
+        Check.same("compile behind all other calls", 0, x.compile(1));
+        Yards.planIs(x, 1, 2, 0, 0, 2);
+    }
+
     /** Nothing that an earlier text left open counts for the next one. */
     private static void compileBeginsAnew() {
         BendYard x = new BendYard();
@@ -306,5 +344,20 @@ public final class PlanTest {
         Yards.planIs(x, 1, 8, 1, 30, 24);
         Texts.compile(x, 1, "times 3 { cut elm 15; wet 2; bend 1 2 3; bend 0 0 0; fit; } cut fir 200; bend 1 1 1; fit;");
         Yards.planIs(x, 1, 18, 4, 245, 21);
+    }
+
+    /** Frames are taken and given between any two actions of a piece. */
+    private static void framesAmongTheActionsOfAPiece() {
+        String[] actions = {"cut oak 20;", "wet 1;", "heat 1;", "bend 1 1 1;", "wet 1;", "bend 2 2 2;", "fit;"};
+        for (int taken = 0; taken <= actions.length; taken++) {
+            for (int given = taken; given <= actions.length; given++) {
+                StringBuilder text = new StringBuilder();
+                for (int i = 0; i <= actions.length; i++) {
+                    text.append(i == taken ? "take rib;" : "").append(i == given ? "give rib;" : "");
+                    text.append(i < actions.length ? actions[i] : "");
+                }
+                Texts.errorIs(text.toString(), 0, -1);
+            }
+        }
     }
 }

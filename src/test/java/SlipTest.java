@@ -8,6 +8,7 @@ public final class SlipTest {
     public static void main(String[] args) {
         addSlip();
         start();
+        slipsThatBuild();
         startRefuses();
         slipKeepsItsPlan();
         slipFacts();
@@ -18,6 +19,13 @@ public final class SlipTest {
         lendAmongThree();
         lendDuringWork();
         lendToLender();
+        lendRefusesALender();
+        lendWhileOneIsFree();
+        lendWhatWasLent();
+        lendOnAtOnce();
+        toleranceOfEachHull();
+        allFrames();
+        takeBehindGive();
         framesAreGrantedInTurn();
         stuck();
         stuckThroughOthers();
@@ -48,6 +56,24 @@ public final class SlipTest {
         Check.same("start again", 2, x.start(0, 0, 0));
         Check.same("begun again", 10, x.slip(0, 14));
         Check.same("actions begun anew", 0, x.slip(0, 2));
+    }
+
+    /** Slips that build are those that wait, too, by take or because they lent a frame. */
+    private static void slipsThatBuild() {
+        BendYard x = Yards.withSlips(4, "take rib; cut oak 20; bend 0 0 0; fit; give rib;");
+        x.addFrame(RIB);
+        x.start(0, 0, 0);
+        x.run(2);
+        x.start(1, 0, 0);
+        x.run(1);
+        x.lend(0, 1, RIB);
+        Check.same("with one that lent", 2, x.count(3));
+        Check.same("start with one that lent", 3, x.start(3, 0, 0));
+        x.run(1);
+        Check.same("with one that lent and one that waits", 3, x.count(3));
+        Check.same("start with both", 4, x.start(2, 0, 0));
+        Check.refuses(x, "start of one that lent", Texts.STATE, () -> x.start(0, 0, 0));
+        Check.refuses(x, "start of one that waits", Texts.STATE, () -> x.start(3, 0, 0));
     }
 
     private static void startRefuses() {
@@ -270,6 +296,155 @@ public final class SlipTest {
         x.run(1);
         Check.same("slip 0 waits for a bow", BOW, x.slip(0, 9));
         Check.same("since its turn", 5, x.slip(0, 10));
+    }
+
+    /** The exceptions in their order, also for a slip that waits for what it lent. */
+    private static void lendRefusesALender() {
+        BendYard x = deadlock();
+        x.addSlip();
+        x.lend(0, 1, RIB);
+        Check.refuses(x, "a lender and no slip", Texts.BOUNDS, () -> x.lend(0, 3, RIB));
+        Check.refuses(x, "a lender and itself", Texts.ARGUMENT, () -> x.lend(0, 0, RIB));
+        Check.refuses(x, "a lender and no sort", Texts.ARGUMENT, () -> x.lend(0, 1, 5));
+        Check.refuses(x, "a lender and a sort below 0", Texts.ARGUMENT, () -> x.lend(0, 1, -1));
+        Check.refuses(x, "a lender", Texts.STATE, () -> x.lend(0, 1, RIB));
+        Check.refuses(x, "an idle slip and no sort", Texts.ARGUMENT, () -> x.lend(2, 0, 5));
+        Check.refuses(x, "an idle slip", Texts.STATE, () -> x.lend(2, 0, RIB));
+    }
+
+    /** A lender waits till the next tick, though a frame of the sort is free; then it has that one. */
+    private static void lendWhileOneIsFree() {
+        BendYard x = Yards.withSlips(2, "take rib; cut oak 20; bend 0 0 0; fit; give rib;", "take rib; give rib;");
+        x.addFrame(RIB);
+        x.start(0, 0, 0);
+        x.run(2);
+        x.start(1, 1, 0);
+        x.run(1);
+        x.addFrame(RIB);
+        Yards.framesAre(x, RIB, 2, 1, 1);
+        Check.same("lend", 1, x.lend(0, 1, RIB));
+        Yards.slipIs(x, 0, 1, 0, 1, 0, 0, 0, 0, 0, 0, RIB, 3, 1, 0, 0, 0);
+        Yards.framesAre(x, RIB, 2, 1, 1);
+        Check.same("it does not wait for good", 0, x.stuck());
+        x.addPlank(0, 20, 0);
+        x.run(1);
+        Yards.slipIs(x, 0, 1, 0, 2, 0, 0, 1, 0, 20, 0, -1, -1, 0, 4, 0, 0);
+        Yards.framesAre(x, RIB, 2, 0, 0);
+    }
+
+    /** What was lent is lent on; who waits longest gets it, not the one that lent it last. */
+    private static void lendWhatWasLent() {
+        BendYard x = Yards.withSlips(3, "take rib; cut oak 20; bend 0 0 0; fit; give rib;", "take rib; give rib;");
+        x.addFrame(RIB);
+        x.start(2, 0, 0);
+        x.run(2);
+        x.start(1, 0, 0);
+        x.run(1);
+        Check.same("slip 2 lends", 1, x.lend(2, 1, RIB));
+        x.start(0, 1, 0);
+        x.run(1);
+        Check.same("slip 1 holds it", 4, x.slip(1, 12));
+        Check.same("slip 1 lends on", 2, x.lend(1, 0, RIB));
+        Yards.framesAre(x, RIB, 1, 0, 2);
+        Check.same("slip 2 waits since", 3, x.slip(2, 10));
+        Check.same("slip 1 waits since", 4, x.slip(1, 10));
+        Check.same("slip 0 is finished", 1, x.run(2));
+        x.run(1);
+        Check.same("slip 2 has it again", 4, x.slip(2, 12));
+        Check.same("slip 1 waits", 1, x.slip(1, 11));
+        Check.same("slip 2 lends again", 1, x.lend(2, 1, RIB));
+        Check.same("slip 1 waits no more", 0, x.slip(1, 11));
+    }
+
+    /** Who has just got a frame for which it waited by take can lend it on, and its take is done when it has it again. */
+    private static void lendOnAtOnce() {
+        BendYard x = Yards.withSlips(3, "take rib; cut oak 20; bend 0 0 0; fit; give rib;", "take rib; give rib;");
+        x.addFrame(RIB);
+        x.start(0, 0, 0);
+        x.run(2);
+        x.start(1, 1, 0);
+        x.start(2, 1, 0);
+        x.run(1);
+        Check.same("slip 0 lends", 2, x.lend(0, 1, RIB));
+        Check.same("slip 1 lends on", 2, x.lend(1, 2, RIB));
+        Check.same("slip 2 lends it back", 2, x.lend(2, 0, RIB));
+        Check.same("slip 0 lends again", 2, x.lend(0, 2, RIB));
+        for (int slip = 0; slip < 2; slip++) {
+            Check.same("slip " + slip + " waits since", 3, x.slip(slip, 10));
+            Check.same("slip " + slip + " lent", 1, x.slip(slip, 11));
+        }
+        Check.same("slip 2 is finished", 1, x.run(2));
+        x.run(1);
+        Check.same("slip 0 is first by its number", 4, x.slip(0, 12));
+        Check.same("slip 0 lends once more", 1, x.lend(0, 1, RIB));
+        x.run(1);
+        Check.same("the take of slip 1 is done", 1, x.slip(1, 2));
+        Check.same("slip 1 is finished", 1, x.run(1));
+    }
+
+    /** Each hull has the tolerance with which it was begun. */
+    private static void toleranceOfEachHull() {
+        BendYard x = Yards.withSlips(1, "cut fir 10; bend 6 6 6; fit;");
+        int[] tolerances = {6, 5, 60};
+        for (int tolerance : tolerances) {
+            x.addPlank(3, 10, 100);
+            int lost = x.count(6);
+            Check.same("start with " + tolerance, 1, x.start(0, 0, tolerance));
+            x.run(3);
+            Check.same("lost with " + tolerance, tolerance == 5 ? 1 : 0, x.count(6) - lost);
+            if (tolerance == 5) {
+                x.addPlank(3, 10, 20);
+                Check.same("a dry piece springs back less", 1, x.run(20));
+            }
+        }
+        Check.same("three hulls", 3, x.count(5));
+    }
+
+    /** "the set of the sorts that it holds (as the sum of the powers 2^k)" */
+    private static void allFrames() {
+        StringBuilder text = new StringBuilder();
+        for (String frame : YardModel.FRAMES) {
+            text.append("take ").append(frame).append(";");
+        }
+        for (String frame : YardModel.FRAMES) {
+            text.append("give ").append(frame).append(";");
+        }
+        BendYard x = Yards.withSlips(1, text.toString());
+        for (int sort = 0; sort < 5; sort++) {
+            x.addFrame(sort);
+        }
+        x.start(0, 0, 0);
+        int[] sets = {1, 3, 7, 15, 31};
+        for (int sort = 0; sort < 5; sort++) {
+            x.run(1);
+            Check.same("waits for", sort, x.slip(0, 9));
+            x.run(1);
+            Check.same("frames that it holds", sets[sort], x.slip(0, 12));
+        }
+        for (int sort = 0; sort < 5; sort++) {
+            Check.same("hulls", sort == 4 ? 1 : 0, x.run(1));
+            Check.same("frames that are left", 31 - sets[sort], x.slip(0, 12));
+            Check.same("frames that are free", 1, x.frames(sort, 1));
+        }
+    }
+
+    /** A frame that a slip gave it has to wait for like any other one. */
+    private static void takeBehindGive() {
+        BendYard x = Yards.withSlips(2, "take rib; give rib; take rib; give rib;", "take rib; give rib;");
+        x.addFrame(RIB);
+        x.start(0, 0, 0);
+        int[] waitsSince = {1, -1, -1, 4, -1, -1};
+        for (int since : waitsSince) {
+            x.run(1);
+            Check.same("waits since at " + x.count(0), since, x.slip(0, 10));
+        }
+        Check.same("finished in the sixth tick", 6, x.hull(0, 5));
+        x.start(0, 0, 0);
+        x.run(1);
+        x.start(1, 1, 0);
+        x.run(3);
+        Check.same("slip 1 waits longer", 4, x.slip(1, 12));
+        Check.same("slip 0 waits", 10, x.slip(0, 10));
     }
 
     private static void framesAreGrantedInTurn() {

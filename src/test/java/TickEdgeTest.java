@@ -34,6 +34,10 @@ public final class TickEdgeTest {
         springBackIsCut();
         springBackIsCutAgain();
         greatestFlaw();
+        stepsOfEachHeat();
+        springBackOfEachWetness();
+        burningAtEachHeat();
+        theNextPieceIsCold();
         theCutOfThisPiece();
         ticksBeginAnew();
         lostPiecesAreCounted();
@@ -49,9 +53,13 @@ public final class TickEdgeTest {
         foreseeOneTick();
         foreseeKnowsTheKnots();
         foreseeLeavesAllElse();
+        foreseeOfAFullYard();
+        foreseeOfEachSort();
         flawOfWhatIsKept();
         digestWrapsAround();
         digestOfFortyHulls();
+        digestOfSixtyPlanks();
+        digestOfABentPieceThatWaits();
         Check.end("TickEdgeTest");
     }
 
@@ -344,6 +352,76 @@ public final class TickEdgeTest {
         }
     }
 
+    /** "g is heat * (wetness and 20) / (100 * stiffness)": of each wood, with each heat, up to more than a bend can need. */
+    private static void stepsOfEachHeat() {
+        int[] stiffness = {8, 6, 5, 4};
+        for (int wood = 0; wood < 4; wood++) {
+            for (int ticks = 1; ticks <= 9; ticks++) {
+                for (int wetness = 40; wetness <= 100; wetness++) {
+                    String cut = "cut " + YardModel.WOODS.get(wood) + " 20;heat " + ticks;
+                    BendYard x = Yards.building(cut + ";bend 40 20 40;fit;", wood, 20, wetness, 0);
+                    x.run(1 + ticks);
+                    int heat = Math.min(200, 20 + 25 * ticks);
+                    int wet = wetness - 3 * ticks;
+                    Yards.pieceIs(x, 2, wet, heat, 0);
+                    x.run(1);
+                    int step = heat * (wet + 20) / (100 * stiffness[wood]);
+                    Yards.bendsAre(x, Math.min(40, step), Math.min(20, step), Math.min(40, step), 40, 20, 40);
+                    Yards.pieceIs(x, step >= 40 ? 3 : 2, wet - 1, heat - 10, 0);
+                }
+            }
+        }
+    }
+
+    /** "each bend springs back by bend * wetness / 200": hot or cold, with each wetness and many bends. */
+    private static void springBackOfEachWetness() {
+        for (String treatment : new String[] {"wet 1;", "heat 1;", "heat 6;wet 1;"}) {
+            for (int wetness = 30; wetness <= 100; wetness++) {
+                int bend = wetness * 7 % 41;
+                BendYard x = Yards.building("cut fir 20;wet 2;bend " + bend + " 1 40;" + treatment + "fit;", FIR, 20, wetness, 60);
+                int actions = treatment.length() > 7 ? 5 : 4;
+                for (int i = 0; i < 60 && x.slip(0, 2) < actions; i++) {
+                    x.run(1);
+                }
+                int wet = x.slip(0, 6);
+                x.run(1);
+                Check.same("flaw by a wetness of " + wet + " and a bend of " + bend, bend * wet / 200 + 40 * wet / 200, x.hull(0, 3));
+            }
+        }
+    }
+
+    /** "if the heat is greater than 150 then, and the wetness less than 10": the tick in which each piece burns. */
+    private static void burningAtEachHeat() {
+        for (int wetness = 0; wetness <= 100; wetness++) {
+            BendYard x = Yards.building("cut fir 20;heat 30;bend 0 0 0;fit;", FIR, 20, wetness, 0);
+            int ticks = 1;
+            while (20 + 25 * ticks <= 150 || wetness - 3 * ticks >= 10) {
+                ticks++;
+            }
+            boolean isBurnt = ticks <= 30;
+            x.run(Math.min(ticks, 31));
+            Check.same("not burnt from " + wetness, 0, x.count(6));
+            x.run(1);
+            Check.same("burnt from " + wetness, isBurnt ? 1 : 0, x.count(6));
+        }
+    }
+
+    /** "heat (20, at first)": also of a piece that is cut where a hot one burnt or was fitted. */
+    private static void theNextPieceIsCold() {
+        BendYard x = Yards.building("cut fir 20;heat 9;bend 0 0 0;fit;", FIR, 60, 0, 0);
+        x.run(7);
+        Check.same("burnt at 170", 1, x.count(6));
+        x.run(1);
+        Yards.pieceIs(x, 1, 1, 20, 0);
+        BendYard y = Yards.building("times 2{cut fir 20;heat 8;bend 9 9 9;fit;}", FIR, 60, 90, 60);
+        y.run(11);
+        Check.same("fitted", 1, y.slip(0, 3));
+        Yards.pieceIs(y, 4, 0, 0, 0);
+        y.run(1);
+        Yards.pieceIs(y, 5, 88, 20, 0);
+        Yards.bendsAre(y, 0, 0, 0, 0, 0, 0);
+    }
+
     /** "the slip goes on with the action cut of this piece": that of the round of times in which it was cut. */
     private static void theCutOfThisPiece() {
         BendYard x = Yards.building("times 2{cut fir 20;bend 6 6 6;fit;}", FIR, 20, 0, 5);
@@ -612,6 +690,45 @@ public final class TickEdgeTest {
         Yards.hullIs(x, 0, 0, 0, 2, 6, 0, 6);
     }
 
+    /** The last plank, the last slip and the last knot are foreseen, too. */
+    private static void foreseeOfAFullYard() {
+        for (int wanted : new int[] {20, 21}) {
+            BendYard x = Yards.withSlips(6, "cut fir " + wanted + ";bend 0 0 0;fit;");
+            for (int i = 0; i < 59; i++) {
+                x.addPlank(i % 3, 100, 0);
+            }
+            x.addPlank(FIR, 27, 0);
+            for (int i = 0; i < 7; i++) {
+                x.addKnot(59, i == 0 ? 0 : 27 - i);
+            }
+            x.start(5, 0, 0);
+            Check.same("places of the last plank", wanted == 20 ? 1 : -1, x.find(FIR, wanted, true));
+            Check.same("hulls of the last slip", wanted == 20 ? 1 : 0, x.foresee(3, 0));
+            x.addKnot(59, 20);
+            Check.same("none behind the eighth knot", 0, x.foresee(200, 0));
+            Check.same("none comes", 0, x.run(200));
+        }
+    }
+
+    /** Frames of each sort that are free are foreseen to be had, and those that are not are not. */
+    private static void foreseeOfEachSort() {
+        for (int sort = 0; sort < 5; sort++) {
+            String frame = YardModel.FRAMES.get(sort);
+            BendYard x = Yards.withSlips(6, "take " + frame + ";give " + frame + ";");
+            x.start(5, 0, 0);
+            Check.same("none without a " + frame, 0, x.foresee(200, 0));
+            Check.same("waits for good", 32, x.foresee(200, 2));
+            x.addFrame(sort);
+            Check.same("one with a " + frame, 3, x.foresee(200, 3));
+            Check.same("waits no more", 0, x.foresee(200, 2));
+            x.run(2);
+            Check.same("held by the slip", 0, x.frames(sort, 1));
+            x.start(0, 0, 0);
+            Check.same("two hulls", 2, x.foresee(200, 0));
+            Check.same("the first one", 3, x.foresee(200, 3));
+        }
+    }
+
     /** "the flaws of all hulls that are kept, divided by their parts; 0 if they have none" */
     private static void flawOfWhatIsKept() {
         BendYard x = Yards.withSlips(1, BARE, "cut fir 20;bend 6 6 6;fit;");
@@ -673,5 +790,32 @@ public final class TickEdgeTest {
         }
         Check.same("hulls", 42, x.count(5));
         Check.same("digest of 42 hulls", Yards.exactDigest(x).longValue(), x.digest());
+    }
+
+    /** "for each plank what plank() tells": to the 60th. */
+    private static void digestOfSixtyPlanks() {
+        BendYard x = new BendYard();
+        for (int i = 0; i < 60; i++) {
+            x.addPlank(i % 4, 300 - i, i);
+        }
+        x.addKnot(59, 100);
+        Check.same("digest of 60 planks", Yards.exactDigest(x).longValue(), x.digest());
+    }
+
+    /** "and its three bends, then its three targets": of a slip that lent its frame, too. */
+    private static void digestOfABentPieceThatWaits() {
+        BendYard x = Yards.withSlips(6, "take rib;cut fir 20;bend 1 2 3;bend 4 9 40;fit;give rib;", BARE);
+        x.addPlank(FIR, 20, 100);
+        x.addFrame(RIB);
+        x.start(5, 0, 0);
+        x.run(5);
+        x.start(0, 1, 0);
+        x.run(1);
+        Check.same("lend", 1, x.lend(5, 0, RIB));
+        for (int i = 0; i < 3; i++) {
+            Check.note(x.bend(5, i, false) > 0 && x.bend(5, i, true) > 0, "the piece is not bent");
+        }
+        Check.note(x.bend(5, 2, false) != x.bend(5, 2, true), "the piece is bent to its targets");
+        Check.same("digest", Yards.exactDigest(x).longValue(), x.digest());
     }
 }

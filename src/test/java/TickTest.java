@@ -4,6 +4,7 @@ public final class TickTest {
 
     public static void main(String[] args) {
         run();
+        runSoManyTicks();
         count();
         wetAndHeatHaveLimits();
         holdHasLimits();
@@ -16,6 +17,14 @@ public final class TickTest {
         fitAndTolerance();
         lostPieceBeginsAnew();
         framesStayWhenAPieceIsLost();
+        waitingLeavesThePiece();
+        lendingLeavesThePiece();
+        bendsStayAsTheyAre();
+        holdWithoutAFrame();
+        takeAgainBehindALoss();
+        oneOfASort();
+        toleranceOfEachPiece();
+        lossLeavesTheParts();
         twoSlipsCutInOrder();
         hulls();
         hullsBeyondForty();
@@ -23,9 +32,13 @@ public final class TickTest {
         foreseeChangesNothing();
         foreseeIsWhatComes();
         foreseeWithCracks();
+        foreseeOfAPieceThatIsThere();
+        foreseeByTheOldPlan();
         foreseeForgetsWhatItForesaw();
         flaw();
+        flawOfFinishedHullsAlone();
         digest();
+        digestOfIdleSlips();
         Check.end("TickTest");
     }
 
@@ -46,6 +59,16 @@ public final class TickTest {
         Check.same("none is finished", 0, x.run(2));
         Check.same("four are finished in a tick", 4, x.run(1));
         Check.same("none any more", 0, x.run(1));
+    }
+
+    private static void runSoManyTicks() {
+        BendYard x = new BendYard();
+        int tick = 0;
+        for (int ticks = 1; ticks <= 200; ticks++) {
+            x.run(ticks);
+            tick += ticks;
+            Check.same("tick behind run(" + ticks + ")", tick, x.count(0));
+        }
     }
 
     private static void count() {
@@ -269,6 +292,158 @@ public final class TickTest {
         Check.same("no rib is free", 0, x.frames(2, 1));
     }
 
+    /** Slip 0: wetness, heat, and the bends and targets, which are the same. */
+    private static void bentPieceIs(BendYard x, int wetness, int heat, int... bends) {
+        Check.same("wetness at " + x.count(0), wetness, x.slip(0, 6));
+        Check.same("heat at " + x.count(0), heat, x.slip(0, 7));
+        Yards.bendsAre(x, bends[0], bends[1], bends[2], bends[0], bends[1], bends[2]);
+    }
+
+    /** Waiting for a frame, taking and giving it leave the piece as it is. */
+    private static void waitingLeavesThePiece() {
+        BendYard x = Yards.building("cut fir 20; heat 2; bend 2 3 4; take rib; take bow; give bow; give rib; fit;", 3, 20, 60, 60);
+        x.run(4);
+        // 70 * 74 / 400 is 12.
+        bentPieceIs(x, 53, 60, 2, 3, 4);
+        for (int i = 0; i < 6; i++) {
+            x.run(1);
+            bentPieceIs(x, 53, 60, 2, 3, 4);
+        }
+        Check.same("waits for a rib", 2, x.slip(0, 9));
+        x.addFrame(2);
+        x.addFrame(0);
+        for (int actions : new int[] {4, 4, 5, 6, 7}) {
+            x.run(1);
+            Check.same("actions", actions, x.slip(0, 2));
+            bentPieceIs(x, 53, 60, 2, 3, 4);
+        }
+        Check.same("finished", 1, x.run(1));
+        Check.same("flaw of 3 * 53 / 200 and 4 * 53 / 200", 1, x.slip(0, 4));
+    }
+
+    /** A slip that waits for what it lent leaves its piece as it is. */
+    private static void lendingLeavesThePiece() {
+        BendYard x = Yards.building("take rib; cut fir 20; heat 4; bend 2 3 4; hold 9; fit; give rib;", 3, 20, 60, 60);
+        Texts.compile(x, 1, "take rib; cut oak 20; bend 0 0 0; fit; give rib;");
+        x.addFrame(2);
+        x.addSlip();
+        x.run(8);
+        // 120 * 68 / 400 is 20.
+        bentPieceIs(x, 47, 110, 2, 3, 4);
+        x.start(1, 1, 0);
+        x.run(1);
+        bentPieceIs(x, 43, 95, 2, 3, 4);
+        x.lend(0, 1, 2);
+        for (int i = 0; i < 6; i++) {
+            x.run(1);
+            bentPieceIs(x, 43, 95, 2, 3, 4);
+        }
+        x.addFrame(2);
+        x.run(1);
+        bentPieceIs(x, 39, 80, 2, 3, 4);
+    }
+
+    /** Wet, heat and hold change neither the bends nor the targets. */
+    private static void bendsStayAsTheyAre() {
+        BendYard x = Yards.building("take rib; cut fir 20; bend 5 4 3; wet 3; heat 4; hold 2; fit; give rib;", 3, 20, 100, 60);
+        x.addFrame(2);
+        x.run(4);
+        int[] wetness = {99, 100, 100, 100, 97, 94, 91, 88, 84, 80};
+        int[] heats = {20, 20, 20, 20, 45, 70, 95, 120, 105, 90};
+        for (int i = 0; i < wetness.length; i++) {
+            bentPieceIs(x, wetness[i], heats[i], 5, 4, 3);
+            x.run(1);
+        }
+        // 5 * 80 / 200 is 2, 4 * 80 / 200 and 3 * 80 / 200 are 1.
+        Check.same("flaw", 4, x.slip(0, 4));
+    }
+
+    /** A piece that is begun anew is held without the frame that was given behind the hold. */
+    private static void holdWithoutAFrame() {
+        BendYard x = Yards.building("take rib; cut fir 20; hold 2; give rib; bend 6 6 6; fit;", 3, 20, 100, 5);
+        x.addPlank(3, 21, 52);
+        x.addFrame(2);
+        x.run(8);
+        // Behind the hold 20 * 112 / 400 and 20 * 111 / 400 are 5.
+        Yards.pieceIs(x, 5, 90, 20, 0);
+        x.run(1);
+        // 6 * 90 / 200 is 2, thrice.
+        Check.same("thrown away", 1, x.slip(0, 13));
+        x.run(1);
+        Yards.pieceIs(x, 2, 51, 20, 0);
+        Check.same("no frame", 0, x.slip(0, 12));
+        x.run(1);
+        Yards.pieceIs(x, 2, 47, 20, 0);
+        x.run(1);
+        Yards.pieceIs(x, 3, 43, 20, 0);
+        x.run(1);
+        Yards.pieceIs(x, 4, 43, 20, 0);
+        Yards.framesAre(x, 2, 1, 1, 0);
+        Check.same("finished", 1, x.run(3));
+        Yards.hullIs(x, 0, 0, 0, 1, 3, 0, 16);
+    }
+
+    /** A frame that was taken and given since the cut has to be waited for again. */
+    private static void takeAgainBehindALoss() {
+        BendYard x = Yards.building("cut fir 20; take rib; bend 6 6 6; give rib; fit;", 3, 40, 100, 5);
+        x.addFrame(2);
+        x.run(6);
+        Check.same("thrown away", 1, x.slip(0, 13));
+        Check.same("the rib is free", 1, x.frames(2, 1));
+        x.run(2);
+        Yards.slipIs(x, 0, 1, 0, 1, 0, 0, 1, 99, 20, 0, 2, 8, 0, 0, 1, 0);
+        Check.same("the rib is free still", 1, x.frames(2, 1));
+        x.run(1);
+        Yards.slipIs(x, 0, 1, 0, 2, 0, 0, 1, 99, 20, 0, -1, -1, 0, 4, 1, 0);
+    }
+
+    /** "a slip holds at most one of a sort": a take of one that it holds leaves the others free. */
+    private static void oneOfASort() {
+        BendYard x = Yards.building("cut fir 20; take rib; bend 6 6 6; fit; give rib;", 3, 40, 100, 5);
+        x.addFrame(2);
+        x.addFrame(2);
+        x.run(5);
+        Check.same("thrown away", 1, x.slip(0, 13));
+        Yards.framesAre(x, 2, 2, 1, 0);
+        x.run(2);
+        Check.same("the take is done", 2, x.slip(0, 2));
+        Yards.framesAre(x, 2, 2, 1, 0);
+        Check.same("it holds one", 4, x.slip(0, 12));
+        x.addPlank(3, 20, 20);
+        Check.same("finished", 1, x.run(40));
+        Yards.framesAre(x, 2, 2, 2, 0);
+    }
+
+    /** "If it is at most the tolerance of the slip": the flaw of the piece, not that of the hull. */
+    private static void toleranceOfEachPiece() {
+        BendYard x = Yards.building("times 3{cut fir 20;bend 6 6 6;fit;}", 3, 60, 100, 6);
+        int[] flaws = {0, 0, 6, 6, 6, 12, 12, 12, 12, 18};
+        for (int flaw : flaws) {
+            x.run(1);
+            Check.same("flaw of the hull at " + x.count(0), flaw, x.slip(0, 4));
+            Check.same("parts at " + x.count(0), flaw / 6, x.slip(0, 3));
+        }
+        Check.same("none was lost", 0, x.count(6));
+        Yards.hullIs(x, 0, 0, 0, 3, 18, 0, 10);
+    }
+
+    /** When a piece is lost, the parts of the hull and their flaw stay, and it is counted by the slip and in all. */
+    private static void lossLeavesTheParts() {
+        BendYard x = Yards.building("cut fir 20;bend 6 6 6;fit;cut fir 20;bend 7 7 9;fit;", 3, 60, 100, 6);
+        x.run(7);
+        // 7 * 98 / 200 is 3 and 9 * 98 / 200 is 4.
+        Yards.slipIs(x, 0, 1, 0, 3, 1, 6, 0, 0, 0, 0, -1, -1, 0, 0, 1, 0);
+        Check.same("lost in all", 1, x.count(6));
+        x.addPlank(3, 20, 21);
+        x.run(4);
+        Check.same("lost in all", 2, x.count(6));
+        Yards.slipIs(x, 0, 1, 0, 3, 1, 6, 0, 0, 0, 0, -1, -1, 0, 0, 2, 0);
+        // 20 * 40 / 400 is 2, then it is 1: eight ticks, and nothing springs back by a wetness of 12.
+        Check.same("not bent yet", 0, x.run(9));
+        Check.same("finished", 1, x.run(1));
+        Yards.slipIs(x, 0, 0, 0, 6, 2, 6, 0, 0, 0, 0, -1, -1, 0, 0, 2, 0);
+    }
+
     private static void twoSlipsCutInOrder() {
         BendYard x = new BendYard();
         Texts.compile(x, 0, "cut oak 30; bend 0 0 0; fit;");
@@ -418,6 +593,30 @@ public final class TickTest {
         Check.same("nothing more", 0, x.foresee(200, 1));
     }
 
+    /** A piece that is there is lost, and cut again by the action by which it was cut. */
+    private static void foreseeOfAPieceThatIsThere() {
+        for (int past = 3; past <= 5; past++) {
+            BendYard x = Yards.building("take rib; cut fir 20; bend 6 6 6; fit; give rib;", 3, 20, 100, 5);
+            x.addPlank(3, 21, 40);
+            x.addFrame(2);
+            x.run(past);
+            Check.same("a hull from " + past, 11, x.foresee(100, 3));
+            Check.same("none before", 0, x.foresee(10 - past, 0));
+            Check.same("lost from " + past, past < 5 ? 1 : 0, x.foresee(100, 1));
+            Check.same("the hull", 1, x.run(11 - past));
+        }
+    }
+
+    /** What is foreseen is built by the plan that was there when it was begun. */
+    private static void foreseeByTheOldPlan() {
+        BendYard x = Yards.building("cut fir 20; wet 9; bend 0 0 0; fit;", 3, 20, 0, 0);
+        x.run(2);
+        Texts.compile(x, 0, "cut fir 20; bend 0 0 0; fit;");
+        Check.same("hull by the old plan", 12, x.foresee(50, 3));
+        Check.same("none before", 0, x.run(9));
+        Check.same("hull by the old plan", 1, x.run(1));
+    }
+
     /** The first foreseeing leaves an oak plank with knots where the second one has an elm plank without any. */
     private static void foreseeForgetsWhatItForesaw() {
         BendYard x = new BendYard();
@@ -480,6 +679,21 @@ public final class TickTest {
         Check.sameDouble("flaw of a hull without parts", 0.0, y.flaw());
     }
 
+    /** The parts of a hull that is not finished yet do not count. */
+    private static void flawOfFinishedHullsAlone() {
+        BendYard x = Yards.building("cut fir 20; bend 6 6 6; fit;", 3, 60, 100, 60);
+        x.run(3);
+        Texts.compile(x, 1, "cut fir 20; bend 0 0 0; fit; cut fir 20; bend 6 6 6; fit;");
+        x.start(0, 1, 60);
+        for (int i = 1; i <= 6; i++) {
+            x.run(1);
+            Check.same("parts", i < 3 ? 0 : 1, x.slip(0, 3));
+            Check.sameDouble("flaw at " + x.count(0), 6.0, x.flaw());
+        }
+        Check.same("finished", 1, x.run(1));
+        Check.sameDouble("flaw of both", 12 / 3.0, x.flaw());
+    }
+
     private static void digest() {
         BendYard fresh = new BendYard();
         Check.same("digest of a new yard", Yards.exactDigest(fresh).longValue(), fresh.digest());
@@ -488,6 +702,31 @@ public final class TickTest {
             Check.same("hulls till " + ticks, ticks < 17 ? ticks < 9 ? 0 : 1 : 2, x.run(ticks));
             Check.same("digest at " + ticks, Yards.exactDigest(x).longValue(), x.digest());
         }
+    }
+
+    /** All slips are told, also those that never built, that wait, that lent, and that are idle again. */
+    private static void digestOfIdleSlips() {
+        BendYard x = new BendYard();
+        for (int i = 0; i < 3; i++) {
+            x.addSlip();
+            Check.same("digest of idle slips", Yards.exactDigest(x).longValue(), x.digest());
+        }
+        Texts.compile(x, 3, BARE);
+        x.addFrame(2);
+        x.start(2, 3, 1);
+        x.run(2);
+        x.start(1, 3, 1);
+        x.run(1);
+        Check.same("digest behind a hull", Yards.exactDigest(x).longValue(), x.digest());
+        BendYard y = Yards.withSlips(4, "take rib; cut oak 20; bend 0 0 0; fit; give rib;", BARE);
+        y.addFrame(2);
+        y.start(3, 0, 60);
+        y.run(2);
+        y.start(1, 1, 60);
+        y.run(1);
+        Check.same("digest with one that waits", Yards.exactDigest(y).longValue(), y.digest());
+        y.lend(3, 1, 2);
+        Check.same("digest with one that lent", Yards.exactDigest(y).longValue(), y.digest());
     }
 
     private static BendYard yardToDigest() {

@@ -13,6 +13,7 @@ public final class WoodEdgeTest {
         eightKnots();
         knotsOfWhatIsLeft();
         nothingLeft();
+        allEightKnots();
         mostPlacesWithoutAKnot();
         tellingOfPlanks();
         justSoManyPlaces();
@@ -41,9 +42,15 @@ public final class WoodEdgeTest {
         }
         Check.refuses(x, "61st plank", Texts.STATE, () -> x.addPlank(0, 10, 0));
         Check.refuses(x, "61st plank that is too short", Texts.ARGUMENT, () -> x.addPlank(0, 9, 0));
-        for (int i = 0; i < 60; i++) {
+        for (int i = 0; i < 60; i += 2) {
             Yards.plankIs(x, i, i % 4, 300 - i, 100 - i, 0, 300 - i);
         }
+        Yards.plankIs(x, 59, 3, 241, 41, 0, 241);
+        Check.same("length of all", 60 * 300 - 59 * 30, x.count(8));
+        Check.same("the last one is found", 59, x.find(3, 200, false));
+        x.run(5);
+        Check.same("the first one dries", 99, x.plank(0, 2));
+        Check.same("the last one dries", 40, x.plank(59, 2));
     }
 
     /** "if wood is not 0 to 3, length is not 10 to 300, or wetness is not 0 to 100": each side of each edge. */
@@ -149,6 +156,28 @@ public final class WoodEdgeTest {
         Check.same("length of all", 0, x.count(8));
         Check.same("number of the next plank", 1, x.addPlank(1, 10, 0));
         Check.same("find of the next plank", 1, x.find(1, 10, false));
+    }
+
+    /** "at most 8": each of them counts for the places, and all of them stay ahead of a cut, or behind it. */
+    private static void allEightKnots() {
+        for (int first : new int[] {0, 11, 40}) {
+            BendYard x = new BendYard();
+            x.addPlank(0, 130, 0);
+            for (int i = 7; i >= 0; i--) {
+                x.addKnot(0, first + 11 * i);
+            }
+            Check.same("ahead or behind", first >= 30 ? 0 : first + 78, x.find(0, 30, true));
+            Check.same("between", first >= 10 ? 0 : first + 1, x.find(0, 10, true));
+            Check.same("most places", Math.max(first, 130 - 78 - first), x.plank(0, 4));
+        }
+        BendYard ahead = cutOf(60, 80, 0, 2, 4, 6, 9, 11, 14, 19);
+        Yards.plankIs(ahead, 0, 1, 20, 60, 8, 4);
+        BendYard behind = cutOf(60, 80, 60, 61, 64, 66, 69, 71, 76, 79);
+        Yards.plankIs(behind, 0, 1, 0, 60, 0, 0);
+        Yards.plankIs(behind, 1, 1, 20, 60, 8, 4);
+        Check.refuses(behind, "the eighth knot", Texts.STATE, () -> behind.addKnot(1, 19));
+        Check.refuses(behind, "a ninth knot", Texts.STATE, () -> behind.addKnot(1, 2));
+        Check.refuses(ahead, "a ninth knot", Texts.STATE, () -> ahead.addKnot(0, 1));
     }
 
     /** "the most places one behind the other without a knot": ahead of all knots, between, behind, and none. */
@@ -272,6 +301,12 @@ public final class WoodEdgeTest {
         Check.same("greatest length of wood 3", 1, x.find(3, 200, false));
         Check.same("its place", 0, x.find(3, 200, true));
         Check.same("none of wood 1", -1, x.find(1, 10, true));
+        x.addPlank(1, 199, 0);
+        Check.same("not quite the greatest length", -1, x.find(1, 200, false));
+        Check.same("one less", 2, x.find(1, 199, false));
+        x.addPlank(2, 10, 0);
+        Check.same("not quite the least length", -1, x.find(2, 11, false));
+        Check.same("just the least length", 3, x.find(2, 10, false));
     }
 
     /** "Tells which plank would be cut.": nothing is cut by this, and the next cut is as it was told. */

@@ -12,6 +12,11 @@ public final class WoodTest {
         cutWithWaste();
         cutBesideTheLimit();
         cutWithoutRoomForPlanks();
+        numbersBehindCuts();
+        emptyPlanksAreNotUsedAgain();
+        cutBySeveralSlips();
+        whoWaitsForWoodHasNoTurn();
+        onlyLengthAndNumberCount();
         cutKeepsWetness();
         wetnessOfPlanks();
         frames();
@@ -214,6 +219,112 @@ public final class WoodTest {
         Yards.plankIs(x, 0, 0, 20, 40, 1, 19);
         Check.same("waste of a 61st plank", 50, x.count(7));
         Check.same("planks", 60, x.count(1));
+    }
+
+    /** "numbered, from 0 in the order in which they came": those that were added, and those that were left behind a cut. */
+    private static void numbersBehindCuts() {
+        BendYard x = new BendYard();
+        Texts.compile(x, 0, "cut oak 10; bend 0 0 0; fit;");
+        x.addSlip();
+        x.addPlank(0, 100, 15);
+        for (int i = 1; i < 19; i += 2) {
+            x.start(0, 0, 0);
+            x.run(3);
+            int left = 100 - 5 * (i + 1);
+            Yards.plankIs(x, i, 0, left, 15, 0, left);
+            Check.same("number of a plank that is added", i + 1, x.addPlank(1, 20 + i, 15));
+            Yards.plankIs(x, i + 1, 1, 20 + i, 15, 0, 20 + i);
+        }
+    }
+
+    /** Neither what is left behind a cut nor a new plank takes the place of one of which nothing is left. */
+    private static void emptyPlanksAreNotUsedAgain() {
+        BendYard x = cutter(30);
+        x.addPlank(0, 30, 40);
+        for (int i = 2; i < 59; i++) {
+            x.addPlank(1, 10, 0);
+        }
+        x.start(0, 0, 0);
+        x.run(3);
+        Yards.plankIs(x, 1, 0, 0, 40, 0, 0);
+        x.start(0, 0, 0);
+        x.run(3);
+        Yards.plankIs(x, 0, 0, 0, 40, 0, 0);
+        Yards.plankIs(x, 59, 0, 70, 39, 0, 70);
+        Check.same("no waste", 0, x.count(7));
+        x.start(0, 0, 0);
+        x.run(3);
+        Yards.plankIs(x, 0, 0, 0, 40, 0, 0);
+        Yards.plankIs(x, 1, 0, 0, 40, 0, 0);
+        Yards.plankIs(x, 59, 0, 0, 39, 0, 0);
+        Check.same("waste with three empty planks", 40, x.count(7));
+        Check.same("planks", 60, x.count(1));
+        Check.refuses(x, "61st plank with three empty ones", Texts.STATE, () -> x.addPlank(0, 10, 0));
+    }
+
+    /** In one tick each slip cuts of what those ahead of it left. */
+    private static void cutBySeveralSlips() {
+        BendYard x = cutter(30);
+        for (int i = 1; i < 5; i++) {
+            x.addSlip();
+        }
+        for (int i = 4; i >= 0; i--) {
+            x.start(i, 0, 0);
+        }
+        x.run(1);
+        for (int i = 0; i < 5; i++) {
+            Check.same("slip " + i + " has a piece", i < 3 ? 1 : 0, x.slip(i, 5));
+        }
+        for (int plank = 0; plank < 3; plank++) {
+            Yards.plankIs(x, plank, 0, 0, 40, 0, 0);
+        }
+        Yards.plankIs(x, 3, 0, 10, 40, 0, 10);
+        Check.same("planks", 4, x.count(1));
+        Check.same("none waits for a frame", 0, x.count(4));
+    }
+
+    /** Wood is cut by the numbers of the slips, however long they try. */
+    private static void whoWaitsForWoodHasNoTurn() {
+        BendYard x = new BendYard();
+        Texts.compile(x, 0, "cut oak 30; bend 0 0 0; fit;");
+        for (int i = 0; i < 3; i++) {
+            x.addSlip();
+        }
+        x.start(2, 0, 0);
+        x.run(3);
+        x.start(1, 0, 0);
+        x.run(3);
+        x.start(0, 0, 0);
+        for (int i = 0; i < 3; i++) {
+            x.addPlank(0, 30, 40);
+            x.run(1);
+            for (int slip = 0; slip < 3; slip++) {
+                Check.same("cuts of slip " + slip + " with plank " + i, slip <= i ? 1 : 0, Math.min(1, x.slip(slip, 2)));
+            }
+        }
+    }
+
+    /** Of planks of one length the smallest number is cut, whatever their wetness, their knots, and their first places. */
+    private static void onlyLengthAndNumberCount() {
+        for (int wetness : new int[] {0, 50, 100}) {
+            BendYard x = new BendYard();
+            x.addPlank(0, 90, 50);
+            x.addPlank(0, 80, 50);
+            x.addPlank(0, 80, wetness);
+            x.addKnot(1, 20);
+            x.addKnot(1, 30);
+            Check.same("more knots", 1, x.find(0, 40, false));
+            Check.same("a place that is not the first", 31, x.find(0, 40, true));
+            x.addKnot(2, 70);
+            Check.same("as wet as " + wetness, 1, x.find(0, 20, false));
+            x.addKnot(2, 75);
+            x.addKnot(2, 79);
+            Check.same("fewer knots", 1, x.find(0, 20, false));
+            Check.same("only the other one", 2, x.find(0, 50, false));
+        }
+        BendYard y = new BendYard();
+        y.addPlank(0, 300, 0);
+        Check.same("a plank that is longer than any piece", 0, y.find(0, 10, false));
     }
 
     private static void cutKeepsWetness() {
