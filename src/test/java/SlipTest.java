@@ -29,6 +29,7 @@ public final class SlipTest {
         framesAreGrantedInTurn();
         stuck();
         stuckThroughOthers();
+        stuckBesideFinishedHulls();
         Check.end("SlipTest");
     }
 
@@ -508,5 +509,20 @@ public final class SlipTest {
         x.addPlank(0, 10, 0);
         Check.same("three hulls", 3, x.run(40));
         Check.same("slip 3 still waits", 8, x.stuck());
+    }
+
+    /** Slips that are idle again have no frames to give, however many hulls were finished on them. */
+    private static void stuckBesideFinishedHulls() {
+        BendYard x = Yards.withSlips(2, "take bow; give bow;", "take rib; give rib;");
+        x.addFrame(RIB);
+        x.start(1, 0, 0);
+        x.run(1);
+        for (int hulls = 0; hulls < 42; hulls++) {
+            x.start(0, 1, 0);
+            Check.same("stuck beside " + hulls + " hulls", 2, x.stuck());
+            Check.same("foreseen beside " + hulls + " hulls", 2, x.foresee(3, 2));
+            x.run(3);
+        }
+        Check.same("stuck beside all hulls", 2, x.stuck());
     }
 }
